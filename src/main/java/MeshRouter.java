@@ -39,6 +39,8 @@ public final class MeshRouter {
     private static final int WITH_ROUNDS = 3;
     private static final int WITH_LEAST_ZONE_LIMIT = 4;
 
+    private static final int UNREACHABLE_LIMIT = 1 << 30;
+
     private static final int NO_ERROR = 0;
     private static final int SYNTAX_ERROR = -100;
     private static final int TICK = -2;
@@ -1007,7 +1009,7 @@ public final class MeshRouter {
             }
             for (int i = 0; i < SERVICES; i++) {
                 if (condition == WITHOUT_EJECTION) {
-                    services[i].failureLimit = Integer.MAX_VALUE;
+                    services[i].failureLimit = UNREACHABLE_LIMIT;
                 } else if (condition == WITH_ROUNDS) {
                     services[i].policy = ROUNDS;
                 }

@@ -5,6 +5,7 @@ public final class Promise02Test {
         wrong();
         full();
         placesUsedAgain();
+        placeOfAnEjectedOne();
         Check.end();
     }
 
@@ -46,6 +47,20 @@ public final class Promise02Test {
         Check.same("nothing changed", Check.all(x), before);
     }
 
+    private static void placeOfAnEjectedOne() {
+        MeshRouter x = new MeshRouter();
+        Check.rule(x, "/=0");
+        x.configure(0, 0, 1, 9, 100, 0);
+        x.save();
+        x.addBackend(0, 0, 1);
+        x.setPattern(0, 0);
+        Check.ask(x, "/", 0, 0);
+        Check.due("backend(0, 9)", x.backend(0, 9), 9);
+        x.restore();
+        x.addBackend(0, 0, 1);
+        Check.same("backend 0", Check.backend(x, 0), "0 0 1 255 0 0 0 0 0 0 0 0");
+    }
+
     private static void placesUsedAgain() {
         MeshRouter x = new MeshRouter();
         x.save();
@@ -53,10 +68,19 @@ public final class Promise02Test {
         x.addBackend(1, 2, 3);
         x.addBackend(1, 0, 3);
         x.configure(1, 0, 1, 3, 100, 20);
-        x.setPattern(0, 6);
+        x.setPattern(0, 0b10100101);
         Check.rule(x, "/=1~1*3");
         Check.askOften(x, "/", 2, 7);
-        Check.differs("credit", "" + x.backend(0, 4), "0");
+        x.configure(1, 0, 9, 3, 100, 20);
+        x.tick(50);
+        x.setPattern(0, 0);
+        Check.askOften(x, "/", 2, 3);
+        int[] fresh = {0, 0, 1, 255, 0, 0, 0, 0, 0, 0, 0, 0};
+        for (int what = 0; what < 12; what++) {
+            if (what != 9) {
+                Check.differs("backend(0, " + what + ")", "" + x.backend(0, what), "" + fresh[what]);
+            }
+        }
         x.restore();
         Check.due("addBackend(0, 0, 1)", x.addBackend(0, 0, 1), 0);
         Check.same("backend 0", Check.backend(x, 0), "0 0 1 255 0 0 0 0 0 0 0 0");
