@@ -1,24 +1,12 @@
-/** A new object. */
+/** A new object, and the constants. */
 public final class Promise01Test {
     public static void main(String[] args) {
-        MeshRouter x = new MeshRouter();
-        for (int what = 0; what < 14; what++) {
-            Check.due("count(" + what + ")", x.count(what), 0);
-        }
-        for (int i = 0; i < 4; i++) {
-            Check.same("service " + i, Check.service(x, i), "0 3 5 50 20 300 0 0 0 0 0 0 0");
-            Check.same("kept " + i, Check.kept(x, i), "-1 -1 -1 -1 -1 -1 -1 -1 -1 -1");
-        }
-        Check.due("backend(0, 0)", x.backend(0, 0), MeshRouter.NONE);
-        Check.due("target(0, 0, 0)", x.target(0, 0, 0), MeshRouter.NONE);
-        Check.due("trace(0, 0)", x.trace(0, 0), MeshRouter.NONE);
-        Check.due("printed(0)", x.printed(0), MeshRouter.NONE);
-        Check.due("play(0)", x.play(0), MeshRouter.NONE);
-        Check.due("restore()", x.restore(), MeshRouter.NONE);
-        Check.due("match(0)", x.match(0), MeshRouter.BAD_TEXT);
-        Check.due("setZoneLimit(1)", x.setZoneLimit(1), 70);
         constants();
-        twoObjects();
+        withoutBackendsAndRules();
+        services();
+        zoneLimit();
+        nothingElse();
+        severalObjects();
         Check.end();
     }
 
@@ -32,18 +20,50 @@ public final class Promise01Test {
         Check.due("BAD_TEXT", MeshRouter.BAD_TEXT, -7);
     }
 
-    private static void twoObjects() {
-        MeshRouter used = new MeshRouter();
-        used.addBackend(0, 0, 1);
-        used.setZoneLimit(3);
-        used.configure(0, 1, 2, 3, 4, 5);
-        Check.rule(used, "/=0");
-        used.save();
-        used.mark();
-        used.print(0);
-        Check.same("a new object beside a used one",
-                Check.all(new MeshRouter()), Check.all(new MeshRouter()));
-        Check.same("its service", Check.service(new MeshRouter(), 0), "0 3 5 50 20 300 0 0 0 0 0 0 0");
-        Check.due("its restore()", new MeshRouter().restore(), MeshRouter.NONE);
+    /** "Creates a router without backends and rules." */
+    private static void withoutBackendsAndRules() {
+        new Router().does("counts() -> 0 0 0 0 0 0 0 0 0 0 0 0 0 0", "backend(0, 0) -> -1",
+                "print(0) -> -1", "target(0, 0, 0) -> -1", "setWeight(0, 1) -> -1",
+                "setPattern(0, 1) -> -1", "removeRule(0) -> -1", "moveRule(0, 0) -> -1",
+                "matched('/', 0) -> -1", "ask('/', 0, 0) -> -4");
+    }
+
+    /**
+     * "All services have policy 0, the failure limit 3, the ejection time 5, the ejection share 50,
+     * the ratio 20 and 300 tokens."
+     */
+    private static void services() {
+        Router x = new Router();
+        for (int i = 0; i < 4; i++) {
+            x.does("service(" + i + ") -> 0 3 5 50 20 300 0 0 0 0 0 0 0",
+                    "kept(" + i + ") -> -1 -1 -1 -1 -1 -1 -1 -1 -1 -1");
+        }
+    }
+
+    /** "The zone limit is 70": asked for, and as it works, on both sides of it. */
+    private static void zoneLimit() {
+        new Router().does("setZoneLimit(1) -> 70");
+        Steps sevenOfTenLeft = Steps.of("addBackend(0, 0, 3)", "addBackend(0, 0, 7)", "addBackend(0, 1, 1)",
+                "configure(0, 1, 1, 20, 100, 0)", "rule('/=0')", "setPattern(0, 0)", "ask('/', 0, 0) -> -6");
+        sevenOfTenLeft.taken().does("ask('/', 0, 0) -> 1", "service(0, 10) -> 0");
+        sevenOfTenLeft.then("setWeight(1, 6)").taken()
+                .does("ask('/', 0, 0) -> 2", "service(0, 10) -> 95");
+    }
+
+    private static void nothingElse() {
+        new Router().does("trace(0, 0) -> -1", "printed(0) -> -1", "play(0) -> -1", "answeredIf(0) -> -1",
+                "restore() -> -1", "match(0) -> -7", "addRule() -> -100");
+    }
+
+    /** Objects share nothing. */
+    private static void severalObjects() {
+        String before = Picture.of(Steps.of());
+        Situations.USED.taken();
+        Situations.FULL.taken();
+        Check.same("a new object beside used ones", Picture.of(Steps.of()), before);
+        Router one = new Router().does("type('/a')", "addBackend(0, 0, 1) -> 0");
+        Router other = new Router().does("type('/')", "addBackend(1, 0, 1) -> 0");
+        one.does("count(13) -> 2", "backend(0, 0) -> 0");
+        other.does("count(13) -> 1", "backend(0, 0) -> 1");
     }
 }

@@ -1,88 +1,85 @@
 /** addBackend. */
 public final class Promise02Test {
     public static void main(String[] args) {
-        ordinary();
-        wrong();
+        aNewBackend();
+        service();
+        zone();
+        weight();
+        number();
         full();
+        firstError();
+        endsTheMarking();
         placesUsedAgain();
-        placeOfAnEjectedOne();
         Check.end();
     }
 
-    private static void ordinary() {
-        MeshRouter x = new MeshRouter();
-        Check.due("addBackend(0, 0, 0)", x.addBackend(0, 0, 0), 0);
-        Check.due("addBackend(3, 2, 9)", x.addBackend(3, 2, 9), 1);
-        Check.same("backend 0", Check.backend(x, 0), "0 0 0 255 0 0 0 0 0 0 0 0");
-        Check.same("backend 1", Check.backend(x, 1), "3 2 9 255 0 0 0 0 0 0 0 0");
-        Check.due("service(0, 6)", x.service(0, 6), 0);
-        Check.due("service(3, 6)", x.service(3, 6), 1);
-        Check.due("count(0)", x.count(0), 2);
+    /** "Adds a backend": its pattern is "at first 255", its credit 0, and it has made no attempts. */
+    private static void aNewBackend() {
+        new Router().does("addBackend(2, 1, 7) -> 0", "backend(0) -> 2 1 7 255 0 0 0 0 0 0 0 0",
+                "addBackend(0, 2, 0) -> 1", "backend(1) -> 0 2 0 255 0 0 0 0 0 0 0 0", "count(0) -> 2");
     }
 
-    private static void wrong() {
-        MeshRouter x = new MeshRouter();
-        x.mark();
-        int[][] calls = {{-1, 0, 0}, {4, 0, 0}, {0, -1, 0}, {0, 3, 0}, {0, 0, -1}, {0, 0, 10},
-            {Integer.MIN_VALUE, 0, 0}, {0, Integer.MAX_VALUE, 0}, {0, 0, Integer.MIN_VALUE}};
-        for (int[] call : calls) {
-            Check.due("a wrong addBackend", x.addBackend(call[0], call[1], call[2]),
-                    MeshRouter.BAD_ARGUMENT);
-        }
-        Check.due("count(0)", x.count(0), 0);
-        Check.due("play(0), still marked", x.play(0), 0);
-        x.addBackend(0, 0, 0);
-        Check.due("play(0), ended", x.play(0), MeshRouter.NONE);
+    /** "service: the service, 0 to 3" */
+    private static void service() {
+        new Router().does("addBackend(0, 0, 1) -> 0", "backend(0, 0) -> 0",
+                "addBackend(3, 0, 1) -> 1", "backend(1, 0) -> 3");
+        refused("addBackend(-1, 0, 1) -> -2", "addBackend(4, 0, 1) -> -2",
+                "addBackend(min, 0, 1) -> -2", "addBackend(max, 0, 1) -> -2");
     }
 
+    /** "zone: the zone, 0 to 2" */
+    private static void zone() {
+        new Router().does("addBackend(0, 0, 1) -> 0", "backend(0, 1) -> 0",
+                "addBackend(0, 2, 1) -> 1", "backend(1, 1) -> 2");
+        refused("addBackend(0, -1, 1) -> -2", "addBackend(0, 3, 1) -> -2",
+                "addBackend(0, min, 1) -> -2", "addBackend(0, max, 1) -> -2");
+    }
+
+    /** "weight: the weight, 0 to 9" */
+    private static void weight() {
+        new Router().does("addBackend(0, 0, 0) -> 0", "backend(0, 2) -> 0", "service(0, 6) -> 0",
+                "addBackend(0, 0, 1) -> 1", "service(0, 6) -> 1",
+                "addBackend(0, 0, 9) -> 2", "backend(2, 2) -> 9", "service(0, 6) -> 2");
+        refused("addBackend(0, 0, -1) -> -2", "addBackend(0, 0, 10) -> -2",
+                "addBackend(0, 0, min) -> -2", "addBackend(0, 0, max) -> -2");
+    }
+
+    /** "Returns its number", the backends being "numbered from 0". */
+    private static void number() {
+        new Router().does("addBackend(3, 2, 1) * 12 -> 0 1 2 3 4 5 6 7 8 9 10 11");
+    }
+
+    /** "FULL if there are 12 backends" */
     private static void full() {
-        MeshRouter x = new MeshRouter();
-        for (int i = 0; i < 12; i++) {
-            Check.due("addBackend " + i, x.addBackend(i % 4, i % 3, 1), i);
-        }
-        x.mark();
-        String before = Check.all(x);
-        Check.due("the 13th addBackend", x.addBackend(0, 0, 1), MeshRouter.FULL);
-        Check.due("a wrong 13th addBackend", x.addBackend(0, 3, 1), MeshRouter.BAD_ARGUMENT);
-        Check.same("nothing changed", Check.all(x), before);
+        new Router().does("addBackend(0, 0, 1) * 11", "addBackend(3, 0, 1) -> 11", "count(0) -> 12",
+                "addBackend(0, 0, 1) -> -3", "count(0) -> 12", "backend(11, 0) -> 3", "backend(12, 0) -> -1");
+        Situations.changesNothing(Situations.FULL, "addBackend(0, 0, 1) -> -3", "addBackend(3, 2, 0) -> -3");
     }
 
-    private static void placeOfAnEjectedOne() {
-        MeshRouter x = new MeshRouter();
-        Check.rule(x, "/=0");
-        x.configure(0, 0, 1, 9, 100, 0);
-        x.save();
-        x.addBackend(0, 0, 1);
-        x.setPattern(0, 0);
-        Check.ask(x, "/", 0, 0);
-        Check.due("backend(0, 9)", x.backend(0, 9), 9);
-        x.restore();
-        x.addBackend(0, 0, 1);
-        Check.same("backend 0", Check.backend(x, 0), "0 0 1 255 0 0 0 0 0 0 0 0");
+    /** "If several errors apply, the one that is listed first at the method is returned." */
+    private static void firstError() {
+        Situations.changesNothing(Situations.FULL, "addBackend(4, 0, 1) -> -2", "addBackend(0, 3, 1) -> -2",
+                "addBackend(0, 0, 10) -> -2", "addBackend(-1, -1, -1) -> -2");
     }
 
+    private static void endsTheMarking() {
+        Situations.USED.taken().does("play(0) -> 0", "addBackend(3, 0, 0) -> 6", "play(0) -> -1", "count(11) -> 0");
+    }
+
+    /** A backend is new, also where there was another one before a restore. */
     private static void placesUsedAgain() {
-        MeshRouter x = new MeshRouter();
-        x.save();
-        x.addBackend(1, 2, 2);
-        x.addBackend(1, 2, 3);
-        x.addBackend(1, 0, 3);
-        x.configure(1, 0, 1, 3, 100, 20);
-        x.setPattern(0, 0b10100101);
-        Check.rule(x, "/=1~1*3");
-        Check.askOften(x, "/", 2, 7);
-        x.configure(1, 0, 9, 3, 100, 20);
-        x.tick(50);
-        x.setPattern(0, 0);
-        Check.askOften(x, "/", 2, 3);
-        int[] fresh = {0, 0, 1, 255, 0, 0, 0, 0, 0, 0, 0, 0};
-        for (int what = 0; what < 12; what++) {
-            if (what != 9) {
-                Check.differs("backend(0, " + what + ")", "" + x.backend(0, what), "" + fresh[what]);
-            }
-        }
-        x.restore();
-        Check.due("addBackend(0, 0, 1)", x.addBackend(0, 0, 1), 0);
-        Check.same("backend 0", Check.backend(x, 0), "0 0 1 255 0 0 0 0 0 0 0 0");
+        new Router().does("save() -> 0", "addBackend(1, 2, 2) -> 0", "addBackend(1, 2, 3)",
+                "configure(1, 0, 1, 3, 100, 20)", "setPattern(0, 2)", "rule('/=1~1')", "ask('/', 0, 2) * 4",
+                "backend(0) -> 1 2 2 2 -1 1 0 0 1 3 2 1",
+                "restore() -> 0", "addBackend(0, 0, 1) -> 0", "backend(0) -> 0 0 1 255 0 0 0 0 0 0 0 0");
+        new Router().does("save() -> 0", "addBackend(1, 2, 2) -> 0", "setPattern(0, 2)",
+                "rule('/=1')", "ask('/', 0, 2) * 2 -> -6 0", "setPattern(0, 0)", "ask('/', 0, 2) -> -6",
+                "backend(0) -> 1 2 2 0 0 3 1 1 0 0 0 0",
+                "restore() -> 0", "addBackend(0, 0, 1) -> 0", "backend(0) -> 0 0 1 255 0 0 0 0 0 0 0 0");
+    }
+
+    private static void refused(String... calls) {
+        Situations.changesNothing(Situations.NEW, calls);
+        Situations.changesNothing(Situations.USED, calls);
     }
 }

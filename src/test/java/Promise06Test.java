@@ -1,16 +1,23 @@
 /** setZoneLimit. */
 public final class Promise06Test {
     public static void main(String[] args) {
-        MeshRouter x = new MeshRouter();
-        Check.due("setZoneLimit(1)", x.setZoneLimit(1), 70);
-        Check.due("setZoneLimit(100)", x.setZoneLimit(100), 1);
-        x.mark();
-        Check.due("setZoneLimit(0)", x.setZoneLimit(0), MeshRouter.BAD_ARGUMENT);
-        Check.due("setZoneLimit(101)", x.setZoneLimit(101), MeshRouter.BAD_ARGUMENT);
-        Check.due("setZoneLimit(-5)", x.setZoneLimit(-5), MeshRouter.BAD_ARGUMENT);
-        Check.due("play(0), still marked", x.play(0), 0);
-        Check.due("setZoneLimit(100)", x.setZoneLimit(100), 100);
-        Check.due("the same limit ends the marking", x.play(0), MeshRouter.NONE);
+        limit();
+        endsTheMarking();
         Check.end();
+    }
+
+    /** "limit: the zone limit, 1 to 100"; "Returns the previous zone limit". */
+    private static void limit() {
+        new Router().does("setZoneLimit(1) -> 70", "setZoneLimit(100) -> 1", "setZoneLimit(55) -> 100",
+                "setZoneLimit(55) -> 55");
+        for (Steps situation : new Steps[] {Situations.NEW, Situations.USED}) {
+            Situations.changesNothing(situation, "setZoneLimit(0) -> -2", "setZoneLimit(101) -> -2",
+                    "setZoneLimit(-1) -> -2", "setZoneLimit(min) -> -2", "setZoneLimit(max) -> -2");
+        }
+    }
+
+    /** "also if nothing is different afterwards" */
+    private static void endsTheMarking() {
+        Situations.USED.taken().does("play(0) -> 0", "setZoneLimit(99) -> 99", "play(0) -> -1", "count(11) -> 0");
     }
 }

@@ -1,67 +1,94 @@
-/** request: its errors, its answers, and what it counts. */
+/** request: its arguments, its answers and what it counts; how it is answered has tests of its own. */
 public final class Promise12Test {
+    private static final Steps ONE = Steps.of("addBackend(0, 0, 1)", "rule('/=0')");
+
     public static void main(String[] args) {
-        errors();
+        header();
+        zone();
+        noPath();
+        firstError();
+        emptyAfterwards();
         answers();
-        firstRule();
+        counts();
+        countsOfServices();
+        keepsTheMarking();
         Check.end();
     }
 
-    private static void errors() {
-        MeshRouter x = new MeshRouter();
-        x.addBackend(0, 0, 1);
-        Check.rule(x, "/=0");
-        Check.ask(x, "/", 0, 0);
-        x.mark();
-        String before = Check.all(x);
-        String[] texts = {"/", "/", "/", "/", "", "a", "/0", "/A", "/=0", "a"};
-        int[] headers = {-1, 10, 0, 0, 0, 0, 0, 0, 0, Integer.MAX_VALUE};
-        int[] zones = {0, 0, -1, 3, 0, 0, 0, 0, 0, 0};
-        for (int i = 0; i < texts.length; i++) {
-            int want = i < 4 || i == 9 ? MeshRouter.BAD_ARGUMENT : MeshRouter.BAD_TEXT;
-            Check.due("request of " + texts[i], Check.ask(x, texts[i], headers[i], zones[i]), want);
-            Check.same("nothing changed, the text is empty", Check.all(x), before);
-        }
-        Check.due("request", Check.ask(x, "/", 0, 0), 0);
-        Check.due("count(13)", x.count(13), 0);
+    /** "header: the header value, 0 to 9" */
+    private static void header() {
+        ONE.taken().does("ask('/', 0, 0) -> 0", "ask('/', 9, 0) -> 0");
+        refused("/", "request(-1, 0) -> -2", "request(10, 0) -> -2", "request(min, 0) -> -2",
+                "request(max, 0) -> -2");
     }
 
+    /** "zone: the zone, 0 to 2" */
+    private static void zone() {
+        ONE.taken().does("ask('/', 0, 0) -> 0", "trace() -> 0,1,1,0", "ask('/', 0, 2) -> 0", "trace() -> 0,1,0,0");
+        refused("/", "request(0, -1) -> -2", "request(0, 3) -> -2", "request(0, min) -> -2",
+                "request(0, max) -> -2");
+    }
+
+    /** "BAD_TEXT if the text is not a path" */
+    private static void noPath() {
+        for (String text : new String[] {"", "a", "a/", "/A", "/`", "/{", "/.", "/0", "/=0", "/a "}) {
+            refused(text, "request(0, 0) -> -7");
+        }
+        refused("/".repeat(39) + "A", "request(0, 0) -> -7", "request(-1, 0) -> -2");
+        ONE.taken().does("append(47, 40)", "request(0, 0) -> 0", "count(13) -> 0");
+    }
+
+    /** "If several errors apply, the one that is listed first at the method is returned." */
+    private static void firstError() {
+        refused("", "request(10, 0) -> -2", "request(0, 3) -> -2", "request(-1, -1) -> -2");
+        refused("/A", "request(-1, 0) -> -2", "request(0, -1) -> -2", "request(10, 3) -> -2");
+    }
+
+    /** "The text is empty afterwards, also after an error." */
+    private static void emptyAfterwards() {
+        new Router().does("type('/a')", "request(0, 0) -> -4", "count(13) -> 0",
+                "type('/a')", "request(10, 0) -> -2", "count(13) -> 0",
+                "type('a')", "request(0, 0) -> -7", "count(13) -> 0", "request(0, 0) -> -7", "count(13) -> 0");
+        new Router().does("addBackend(0, 0, 1)", "setPattern(0, 254)", "rule('/=0')", "rule('/a=1')", "moveRule(1, 0)",
+                "type('/b')", "request(0, 0) -> -6", "count(13) -> 0", "type('/b')", "request(0, 0) -> 0",
+                "count(13) -> 0", "type('/a')", "request(0, 0) -> -5", "count(13) -> 0");
+    }
+
+    /** "Returns the answer": a backend's number, NO_ROUTE, NO_BACKEND, FAILED. */
     private static void answers() {
-        MeshRouter x = new MeshRouter();
-        x.addBackend(0, 0, 1);
-        Check.due("no rule", Check.ask(x, "/a", 0, 0), MeshRouter.NO_ROUTE);
-        Check.rule(x, "/a[1-8]=0");
-        Check.rule(x, "/b=1,2,3");
-        Check.due("a header below", Check.ask(x, "/a", 0, 0), MeshRouter.NO_ROUTE);
-        Check.due("a header above", Check.ask(x, "/a", 9, 0), MeshRouter.NO_ROUTE);
-        Check.due("another path", Check.ask(x, "/c", 5, 0), MeshRouter.NO_ROUTE);
-        Check.due("a backend", Check.ask(x, "/ab", 1, 0), 0);
-        Check.due("a backend", Check.ask(x, "/a", 8, 2), 0);
-        Check.due("none", Check.ask(x, "/b", 8, 2), MeshRouter.NO_BACKEND);
-        x.addBackend(2, 0, 0);
-        Check.due("none with weight", Check.ask(x, "/b", 8, 2), MeshRouter.NO_BACKEND);
-        x.setPattern(0, 0);
-        Check.due("a failing one", Check.ask(x, "/a", 5, 1), MeshRouter.FAILED);
-        int[] counts = {2, 2, 9, 2, 4, 2, 1, 3, 0, 0, 0};
-        for (int what = 0; what < counts.length; what++) {
-            Check.due("count(" + what + ")", x.count(what), counts[what]);
-        }
-        Check.same("service 0", Check.service(x, 0), "0 3 5 50 20 360 1 0 3 2 0 0 0");
-        Check.same("service 1", Check.service(x, 1), "0 3 5 50 20 300 0 0 0 0 0 0 0");
+        new Router().does("ask('/a', 0, 0) -> -4", "addBackend(1, 0, 1)", "addBackend(0, 0, 1)", "rule('/a[1-8]=0')",
+                "rule('/b=2,3')", "ask('/a', 0, 0) -> -4", "ask('/a', 9, 0) -> -4", "ask('/c', 5, 0) -> -4",
+                "ask('/ab', 1, 0) -> 1", "ask('/a', 8, 2) -> 1", "ask('/b', 8, 2) -> -5",
+                "addBackend(2, 0, 0)", "ask('/b', 8, 2) -> -5", "setPattern(1, 0)", "ask('/a', 5, 1) -> -6");
+        new Router().does("addBackend(3, 0, 0) * 11", "addBackend(3, 0, 1)", "rule('/=3')", "ask('/', 0, 0) -> 11");
     }
 
-    private static void firstRule() {
-        MeshRouter x = new MeshRouter();
-        for (int i = 0; i < 4; i++) {
-            x.addBackend(i, 0, 1);
+    /** "requests that were answered", "by a backend", with NO_ROUTE, NO_BACKEND and FAILED, and attempts */
+    private static void counts() {
+        new Router().does("addBackend(0, 0, 1)", "addBackend(0, 0, 1)", "setPattern(0, 0)", "setPattern(1, 252)",
+                "configure(0, 0, 9, 1, 0, 0)", "rule('/a=0*2')", "rule('/b=1')",
+                "ask('/a', 0, 0) * 4 -> -6 -6 1 1", "ask('/b', 0, 0) * 3 -> -5 -5 -5", "ask('/c', 0, 0) -> -4",
+                "ask('/a', 10, 0) -> -2", "ask('a', 0, 0) -> -7",
+                "counts() -> 2 2 8 2 1 3 2 7 0 0 0 0 0 0");
+    }
+
+    /** "requests for which it was chosen", and "those of them that were answered by a backend" */
+    private static void countsOfServices() {
+        new Router().does("addBackend(0, 0, 1)", "addBackend(1, 0, 1)", "setPattern(0, 85)",
+                "configure(0, 0, 9, 1, 0, 10)", "rule('/a=0')", "rule('/b=1,2')", "ask('/a', 0, 0) * 5 -> 0 -6 0 -6 0",
+                "ask('/b', 0, 0) * 2 -> 1 1", "service(0) -> 0 9 1 0 10 350 1 0 5 3 0 0 0",
+                "service(1) -> 0 3 5 50 20 340 1 0 2 2 0 0 0", "service(2) -> 0 3 5 50 20 300 0 0 0 0 0 0 0",
+                "setWeight(1, 0)", "ask('/b', 0, 0) -> -5", "service(1) -> 0 3 5 50 20 340 0 0 2 2 0 0 0");
+    }
+
+    private static void keepsTheMarking() {
+        Situations.USED.taken().does("count(11) -> 9", "ask('/', 0, 0)", "count(11) -> 10", "play(0) -> 0",
+                "ask('/', 0, 5) -> -2", "ask('', 0, 0) -> -7", "count(11) -> 10", "play(0) -> 0");
+    }
+
+    private static void refused(String text, String... calls) {
+        for (Steps situation : new Steps[] {Situations.NEW, Situations.USED, Situations.FULL}) {
+            Situations.emptiesTheText(situation, text, calls);
         }
-        Check.rule(x, "/a/b=3");
-        Check.rule(x, "/a[0-4]=2");
-        Check.rule(x, "/a=1");
-        Check.rule(x, "/=0");
-        Check.due("request", Check.ask(x, "/a/bc", 9, 0), 3);
-        Check.due("request", Check.ask(x, "/a/", 4, 0), 2);
-        Check.due("request", Check.ask(x, "/a/", 5, 0), 1);
-        Check.due("request", Check.ask(x, "//", 5, 0), 0);
     }
 }

@@ -1,64 +1,75 @@
 /** foresee. */
 public final class Promise13Test {
+    private static final Steps ONE = Steps.of("addBackend(0, 0, 1)", "rule('/=0')");
+
     public static void main(String[] args) {
-        errors();
-        answers();
+        header();
+        zone();
+        noPath();
+        firstError();
+        theAnswer();
+        nothingChanges();
         Check.end();
     }
 
-    private static void errors() {
-        MeshRouter x = new MeshRouter();
-        due(x, "/", 10, 0, MeshRouter.BAD_ARGUMENT);
-        due(x, "/", -1, 0, MeshRouter.BAD_ARGUMENT);
-        due(x, "/", 0, 3, MeshRouter.BAD_ARGUMENT);
-        due(x, "/", 0, -1, MeshRouter.BAD_ARGUMENT);
-        due(x, "", 10, 0, MeshRouter.BAD_ARGUMENT);
-        due(x, "", 0, 0, MeshRouter.BAD_TEXT);
-        due(x, "/?", 0, 0, MeshRouter.BAD_TEXT);
-        due(x, "a", 0, 0, MeshRouter.BAD_TEXT);
+    /** "header: the header value, 0 to 9" */
+    private static void header() {
+        ONE.taken().does("foreseen('/', 0, 0) -> 0", "foreseen('/', 9, 0) -> 0");
+        refused("/", "foresee(-1, 0) -> -2", "foresee(10, 0) -> -2", "foresee(min, 0) -> -2", "foresee(max, 0) -> -2");
     }
 
-    private static void answers() {
-        MeshRouter x = new MeshRouter();
-        x.addBackend(0, 0, 1);
-        x.addBackend(0, 0, 2);
-        x.addBackend(0, 1, 1);
-        x.setPattern(0, 0b10);
-        x.setPattern(1, 0b1010);
-        x.configure(0, 2, 2, 3, 60, 50);
-        Check.rule(x, "/a=0~0*2");
-        Check.rule(x, "/b=0,1");
-        Check.rule(x, "/c=2");
-        x.mark();
-        due(x, "/d", 0, 0, MeshRouter.NO_ROUTE);
-        due(x, "/c", 0, 0, MeshRouter.NO_BACKEND);
-        int[] seen = new int[3];
+    /** "zone: the zone, 0 to 2" */
+    private static void zone() {
+        ONE.taken().does("foreseen('/', 0, 0) -> 0", "foreseen('/', 0, 2) -> 0");
+        refused("/", "foresee(0, -1) -> -2", "foresee(0, 3) -> -2", "foresee(0, min) -> -2", "foresee(0, max) -> -2");
+    }
+
+    /** "BAD_ARGUMENT and BAD_TEXT as for request" */
+    private static void noPath() {
+        for (String text : new String[] {"", "a", "a/", "/A", "/`", "/{", "/.", "/0", "/=0"}) {
+            refused(text, "foresee(0, 0) -> -7");
+        }
+    }
+
+    private static void firstError() {
+        refused("", "foresee(10, 0) -> -2", "foresee(0, 3) -> -2", "foresee(-1, -1) -> -2");
+        refused("/A", "foresee(-1, 0) -> -2", "foresee(0, -1) -> -2");
+    }
+
+    /** "Returns the answer that a request would have": for each in a long row of requests. */
+    private static void theAnswer() {
+        Router x = new Router().does("addBackend(0, 0, 1)", "addBackend(0, 0, 2)", "addBackend(0, 1, 1)",
+                "setPattern(0, 2)", "setPattern(1, 10)", "setPattern(2, 102)", "configure(0, 2, 2, 3, 60, 20)", "rule('/a=0~0*2')",
+                "rule('/b=0,1')", "rule('/c=2')", "foreseen('/d', 0, 0) -> -4", "foreseen('/c', 0, 0) -> -5",
+                "mark() -> 3");
+        int[] seen = new int[2];
         for (int i = 0; i < 45; i++) {
-            int answer = foreseenAndAsked(x, i % 4 == 3 ? "/b" : "/a", i % 10, i % 3);
-            seen[answer == MeshRouter.FAILED ? 0 : 1]++;
+            x.does(i % 4 == 3 ? "type('/b')" : "type('/a')");
+            String arguments = "(" + i % 10 + ", " + i % 3 + ")";
+            String foreseen = x.asks("foresee" + arguments);
+            x.does("foresee" + arguments + " -> " + foreseen, "request" + arguments + " -> " + foreseen);
+            seen[foreseen.equals("-6") ? 0 : 1]++;
             if (i % 5 == 0) {
-                x.tick(1);
+                x.does("tick(1)");
             }
         }
-        Check.due("some fail and some do not", seen[0] > 0 && seen[1] > 0 ? 1 : 0, 1);
-        Check.due("recorded", x.count(11), 54);
+        Check.holds("some fail and some do not", seen[0] > 5 && seen[1] > 5);
+        x.does("count(11) -> 54", "play(0) -> 0");
     }
 
-    private static int foreseenAndAsked(MeshRouter x, String path, int header, int zone) {
-        Check.type(x, path);
-        String before = Check.all(x);
-        int foreseen = x.foresee(header, zone);
-        Check.due("foresee once more", x.foresee(header, zone), foreseen);
-        Check.same("nothing changed", Check.all(x), before);
-        Check.due("request of " + path, x.request(header, zone), foreseen);
-        return foreseen;
+    /** "Nothing changes, and the text stays." */
+    private static void nothingChanges() {
+        String[] calls = {"foresee(0, 0)", "foresee(1, 1)", "foresee(8, 2)", "foresee(9, 0)"};
+        for (String text : new String[] {"/", "/ab", "/c", "/a//"}) {
+            Situations.changesNothing(Situations.USED.then("type('" + text + "')"), calls);
+            Situations.changesNothing(Situations.FULL.then("type('" + text + "')"), calls);
+        }
+        Situations.changesNothing(Situations.FULL.then("rule('/=0')", "append(47, 40)"), calls);
     }
 
-    private static void due(MeshRouter x, String path, int header, int zone, int want) {
-        Check.type(x, path);
-        String before = Check.all(x);
-        Check.due("foresee of " + path, x.foresee(header, zone), want);
-        Check.same("nothing changed", Check.all(x), before);
-        x.request(-1, 0);
+    private static void refused(String text, String... calls) {
+        for (Steps situation : new Steps[] {Situations.NEW, Situations.USED, Situations.FULL}) {
+            Situations.changesNothing(situation.then("type('" + text + "')"), calls);
+        }
     }
 }

@@ -1,94 +1,78 @@
 /** restore. */
 public final class Promise27Test {
+    private static final String[] CHANGES = {"ask('/ab', 1, 0) * 3", "ask('/', 0, 2) * 2", "ask('/ab', 5, 1)",
+        "ask('/zz', 9, 0)", "tick(2)", "setWeight(0, 5)", "setPattern(2, 99)", "configure(0, 1, 9, 1, 1, 1)",
+        "configure(3, 1, 9, 1, 1, 1)", "setZoneLimit(9)", "addBackend(3, 2, 1)", "moveRule(0, 1)", "removeRule(0)",
+        "rule('/q=3')", "rule('/q=3,0,1~1*4')", "ask('/q', 0, 0) * 3", "mark()", "ask('/q', 0, 0) * 2", "tick(1)", "print(0)"};
+
     public static void main(String[] args) {
-        MeshRouter none = new MeshRouter();
-        none.addBackend(0, 0, 1);
-        Check.due("restore()", none.restore(), MeshRouter.NONE);
-        Check.due("count(0)", none.count(0), 1);
+        numberOfBackends();
+        noSnapshot();
         everything();
-        goesOnAlike();
+        fromFewerAndMore();
+        snapshotIsKept();
+        emptyTrace();
+        textsStay();
+        endsTheMarking();
         Check.end();
     }
 
-    /** A router with something in every place. */
-    private static MeshRouter used() {
-        MeshRouter x = new MeshRouter();
-        x.addBackend(0, 0, 1);
-        x.addBackend(0, 0, 3);
-        x.addBackend(0, 1, 1);
-        x.addBackend(1, 1, 2);
-        x.addBackend(1, 2, 1);
-        x.configure(0, 2, 1, 20, 50, 7);
-        x.configure(1, 1, 2, 3, 100, 9);
-        x.setPattern(1, 0);
-        x.setPattern(3, 0b1010);
-        x.setZoneLimit(99);
-        Check.rule(x, "/a[1-8]=0:2,1:3~1*3");
-        Check.rule(x, "/=1,2~0*2");
-        change(x);
-        return x;
+    /** "Returns the number of backends": of those that there are then. */
+    private static void numberOfBackends() {
+        new Router().does("save() -> 0", "addBackend(0, 0, 1) * 12", "restore() -> 0", "count(0) -> 0", "backend(0, 0) -> -1");
+        Situations.FULL.taken().does("restore() -> 12");
     }
 
-    private static void change(MeshRouter x) {
-        for (int i = 0; i < 20; i++) {
-            Check.ask(x, i % 3 == 2 ? "/b" : "/ab", 1 + i % 8, i * i % 3);
-        }
-        Check.ask(x, "/", 0, 0);
-        Check.ask(x, "/ab", 0, 0);
-        x.tick(2);
+    /** "NONE if there is no snapshot" */
+    private static void noSnapshot() {
+        Situations.changesNothing(Situations.NEW, "restore() -> -1");
+        Situations.changesNothing(Steps.of("addBackend(0, 0, 1)", "rule('/=0')", "mark()", "ask('/', 0, 0)", "type('/a')"),
+                "restore() -> -1");
     }
 
+    /** "Restores the snapshot": whatever was done since, the state and what follows are the same. */
     private static void everything() {
-        MeshRouter x = used();
-        x.mark();
-        Check.type(x, "/xyz");
-        String state = Check.state(x);
-        String rules = Check.print(x, 0) + " " + Check.print(x, 1);
-        Check.due("save()", x.save(), 5);
-        x.request(0, 0);
-        change(x);
-        x.setWeight(0, 9);
-        x.setPattern(2, 99);
-        x.configure(0, 1, 9, 1, 1, 1);
-        x.configure(3, 1, 9, 1, 1, 1);
-        x.setZoneLimit(9);
-        x.addBackend(3, 2, 1);
-        x.moveRule(0, 1);
-        x.removeRule(0);
-        Check.rule(x, "/q=3");
-        Check.rule(x, "/q=3,0");
-        change(x);
-        x.mark();
-        x.setWeight(5, 0);
-        Check.due("without a member", Check.ask(x, "/q", 0, 0), MeshRouter.NO_BACKEND);
-        x.setWeight(5, 1);
-        Check.due("with one", Check.ask(x, "/q", 0, 0), 5);
-        Check.type(x, "/ab");
-        x.print(2);
-        Check.differs("much has changed", Check.state(x), state);
-        Check.due("restore()", x.restore(), 5);
-        Check.same("the state", Check.state(x), state);
-        Check.due("the trace is empty", x.count(12), 0);
-        Check.due("trace(0, 0)", x.trace(0, 0), MeshRouter.NONE);
-        Check.due("the typed text stays", x.count(13), 3);
-        Check.due("the printed text stays", x.printed(4), ',');
-        Check.due("the marking has ended", x.play(0), MeshRouter.NONE);
-        Check.same("the rules", Check.print(x, 0) + " " + Check.print(x, 1), rules);
-        change(x);
-        x.setZoneLimit(50);
-        Check.due("restore(), the snapshot is kept", x.restore(), 5);
-        Check.same("the state", Check.state(x), state);
-        Check.due("zone limit", x.setZoneLimit(1), 99);
+        for (Steps situation : new Steps[] {Situations.NEW, Situations.USED, Situations.FULL}) {
+            Steps restored = situation.then("save()").then(CHANGES).then("restore()");
+            Check.same("the state", Picture.ofState(restored), Picture.ofState(situation));
+            Check.same("the state", Picture.ofState(situation.then("save()", "restore()")), Picture.ofState(situation));
+        }
     }
 
-    private static void goesOnAlike() {
-        MeshRouter one = used();
-        one.save();
-        change(one);
-        one.restore();
-        MeshRouter other = used();
-        change(one);
-        change(other);
-        Check.same("the state", Check.all(one), Check.all(other));
+    private static void fromFewerAndMore() {
+        Steps more = Situations.USED.then("save()", "removeRule(0)", "removeRule(0)", "restore()");
+        Check.same("with the rules that were gone", Picture.ofState(more), Picture.ofState(Situations.USED));
+        new Router().does("save()", "rule('/=0') * 8", "restore() -> 0", "count(1) -> 0", "matched('/', 0) -> -1",
+                "rule('/=1') -> 0", "targets(0) -> 1,1,0,0");
+    }
+
+    /** "which is kept" */
+    private static void snapshotIsKept() {
+        Steps twice = Situations.USED.then("save()", "setWeight(0, 9)", "restore() -> 6", "setWeight(0, 8)",
+                "ask('/', 0, 0) * 3", "removeRule(0)", "restore() -> 6");
+        Check.same("the state", Picture.ofState(twice), Picture.ofState(Situations.USED));
+        Steps nine = twice.then("tick(1)", "restore() -> 6", "restore() -> 6");
+        Check.same("the state", Picture.ofState(nine), Picture.ofState(Situations.USED));
+    }
+
+    /** "The trace is empty then." */
+    private static void emptyTrace() {
+        Situations.USED.taken().does("count(12) -> 1", "restore()", "count(12) -> 0", "trace(0, 0) -> -1");
+        new Router().does("addBackend(0, 0, 1)", "rule('/=0')", "ask('/', 0, 0) -> 0", "save()", "count(12) -> 1",
+                "restore()", "count(12) -> 0", "trace(0, 0) -> -1");
+    }
+
+    /** "The printed text is not saved, and restoring leaves it"; and the typed text is not saved either. */
+    private static void textsStay() {
+        Router x = new Router().does("rule('/ab=0')", "print(0)", "type('/')", "save()", "rule('') -> -101", "rule('/c=1') -> 1",
+                "print(1)", "type('/c')", "restore()", "count(13) -> 2", "append(42, 1) -> 3", "addRule() -> -102");
+        Check.due("the printed text", x.printed(), "/c=1");
+    }
+
+    /** It changes something, and is not mark, save or append. */
+    private static void endsTheMarking() {
+        Situations.USED.taken().does("count(11) -> 9", "restore() -> 6", "count(11) -> 0", "play(0) -> -1",
+                "answeredIf(0) -> -1", "ask('/', 0, 0)", "count(11) -> 0");
+        new Router().does("save()", "mark()", "restore() -> 0", "play(0) -> -1");
     }
 }

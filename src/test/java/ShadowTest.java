@@ -1,69 +1,74 @@
 /** Shadows (promise 12). */
 public final class ShadowTest {
     public static void main(String[] args) {
-        fewestFirst();
-        whateverTheAnswer();
-        ejectedOnes();
+        fewestAttempts();
+        lowestNumber();
+        byItsPattern();
+        noMember();
+        ejectedOrNot();
+        ownShadow();
+        nothingElseChanges();
         Check.end();
     }
 
-    private static void fewestFirst() {
-        MeshRouter x = new MeshRouter();
-        x.addBackend(0, 0, 1);
-        x.addBackend(1, 0, 1);
-        x.addBackend(1, 1, 9);
-        x.addBackend(1, 2, 0);
-        x.setPattern(1, 0b10);
-        Check.rule(x, "/=0~1");
-        Check.askOften(x, "/", 0, 5);
-        Check.due("shadow attempts of 1", x.backend(1, 10), 3);
-        Check.due("shadow attempts of 2", x.backend(2, 10), 2);
-        Check.due("shadow attempts of 3, no member", x.backend(3, 10), 0);
-        Check.due("those of 1 that succeeded", x.backend(1, 11), 1);
-        Check.due("those of 2 that succeeded", x.backend(2, 11), 2);
-        Check.due("shadow attempts", x.count(8), 5);
-        Check.due("attempts", x.count(7), 5);
-        Check.same("backend 1", Check.backend(x, 1), "1 0 1 2 0 0 0 0 0 0 3 1");
-        Check.same("service 1", Check.service(x, 1), "0 3 5 50 20 300 2 0 0 0 0 0 0");
-        Check.same("trace", Check.trace(x), "0,1,1,0");
-        x.setWeight(3, 1);
-        Check.askOften(x, "/", 0, 2);
-        Check.due("shadow attempts of 3", x.backend(3, 10), 2);
-        x.setWeight(1, 0);
-        x.setWeight(2, 0);
-        x.setWeight(3, 0);
-        Check.ask(x, "/", 0, 0);
-        Check.due("shadow attempts, no member", x.count(8), 7);
+    /** "the member of the shadow service with the fewest shadow attempts" */
+    private static void fewestAttempts() {
+        new Router().does("addBackend(0, 0, 1)", "addBackend(1, 0, 1)", "addBackend(1, 1, 9)", "addBackend(1, 2, 0)",
+                "rule('/=0~1')", "ask('/', 0, 0) * 5", "backend(1, 10) -> 3", "backend(2, 10) -> 2", "backend(3, 10) -> 0",
+                "setWeight(3, 1)", "ask('/', 0, 0) * 2", "backend(1, 10) -> 3", "backend(2, 10) -> 2", "backend(3, 10) -> 2",
+                "ask('/', 0, 0) * 2", "backend(1, 10) -> 3", "backend(2, 10) -> 3", "backend(3, 10) -> 3");
     }
 
-    private static void whateverTheAnswer() {
-        MeshRouter x = new MeshRouter();
-        x.addBackend(2, 0, 1);
-        x.addBackend(0, 0, 1);
-        x.setPattern(1, 0);
-        Check.rule(x, "/a=0~2");
-        Check.rule(x, "/b=1~2");
-        Check.rule(x, "/c=2~2");
-        Check.due("request", Check.ask(x, "/a", 0, 0), MeshRouter.FAILED);
-        Check.due("shadow attempts", x.count(8), 1);
-        Check.due("request", Check.ask(x, "/b", 0, 0), MeshRouter.NO_BACKEND);
-        Check.due("shadow attempts", x.count(8), 2);
-        Check.due("request", Check.ask(x, "/d", 0, 0), MeshRouter.NO_ROUTE);
-        Check.due("shadow attempts", x.count(8), 2);
-        Check.due("request", Check.ask(x, "/c", 0, 0), 0);
-        Check.same("its own shadow", Check.backend(x, 0), "2 0 1 255 0 1 1 0 0 0 3 3");
+    /** "of several the one with the lowest number" */
+    private static void lowestNumber() {
+        Router x = new Router().does("addBackend(1, 0, 1) * 3", "rule('/=0~1')");
+        for (int i = 0; i < 7; i++) {
+            x.does("backend(" + i % 3 + ", 10) -> " + i / 3, "ask('/', 0, 0)", "backend(" + i % 3 + ", 10) -> " + (i / 3 + 1));
+        }
     }
 
-    private static void ejectedOnes() {
-        MeshRouter x = new MeshRouter();
-        x.addBackend(0, 0, 1);
-        x.configure(0, 0, 1, 9, 100, 0);
-        x.setPattern(0, 0b11110000);
-        Check.rule(x, "/=0~0*2");
-        Check.due("request", Check.ask(x, "/", 0, 0), MeshRouter.FAILED);
-        Check.due("request", Check.ask(x, "/", 0, 0), MeshRouter.NO_BACKEND);
-        Check.same("backend", Check.backend(x, 0), "0 0 1 240 0 1 0 0 1 9 2 0");
-        Check.askOften(x, "/", 0, 7);
-        Check.same("backend", Check.backend(x, 0), "0 0 1 240 0 1 0 0 1 9 9 4");
+    /** "Its shadow attempts are numbered from 0 and succeed by its pattern, likewise": bit k modulo 8 */
+    private static void byItsPattern() {
+        for (int bit = 0; bit < 8; bit++) {
+            Router x = new Router().does("addBackend(1, 0, 1)", "setPattern(0, " + (1 << bit) + ")", "rule('/=0~1')");
+            for (int attempt = 0; attempt < 18; attempt++) {
+                x.does("ask('/', 0, 0) -> -5", "backend(0, 11) -> " + (attempt < bit ? 0 : (attempt - bit) / 8 + 1));
+            }
+            x.does("backend(0, 10) -> 18");
+        }
+    }
+
+    /** "if there is no member, nothing happens" */
+    private static void noMember() {
+        new Router().does("addBackend(0, 0, 1)", "addBackend(1, 0, 0)", "rule('/=0~1')", "rule('/b=0~2')", "moveRule(1, 0)",
+                "ask('/', 0, 0) -> 0", "count(8) -> 0", "backend(1, 10) -> 0", "ask('/b', 0, 0) -> 0", "count(8) -> 0",
+                "setWeight(1, 1)", "ask('/', 0, 0) -> 0", "count(8) -> 1", "backend(1, 10) -> 1", "setWeight(1, 0)",
+                "ask('/', 0, 0) -> 0", "count(8) -> 1", "backend(1, 10) -> 1");
+    }
+
+    /** "ejected or not" */
+    private static void ejectedOrNot() {
+        new Router().does("addBackend(0, 0, 1)", "configure(0, 0, 1, 9, 100, 0)", "setPattern(0, 240)", "rule('/=0~0*2')",
+                "ask('/', 0, 0) * 2 -> -6 -5", "backend(0) -> 0 0 1 240 0 1 0 0 1 9 2 0", "ask('/', 0, 0) * 7",
+                "backend(0) -> 0 0 1 240 0 1 0 0 1 9 9 4");
+        // An ejected one without weight is no member.
+        new Router().does("addBackend(0, 0, 1)", "configure(0, 0, 1, 9, 100, 0)", "setPattern(0, 0)", "rule('/=0~0')",
+                "ask('/', 0, 0) -> -6", "count(8) -> 1", "setWeight(0, 0)", "ask('/', 0, 0) -> -5", "count(8) -> 1");
+    }
+
+    /** The numbers of attempts and shadow attempts do not depend on each other. */
+    private static void ownShadow() {
+        new Router().does("addBackend(0, 0, 1)", "setPattern(0, 5)", "configure(0, 0, 9, 1, 0, 0)", "rule('/a=0~0')", "rule('/b=0')",
+                "rule('/c=1~0')", "ask('/b', 0, 0) -> 0", "ask('/a', 0, 0) -> -6", "ask('/c', 0, 0) -> -5", "ask('/a', 0, 0) -> 0",
+                "backend(0) -> 0 0 1 5 0 3 2 0 0 0 3 2");
+    }
+
+    /** "and nothing else changes": no credit, token, failure run, ejection, count of attempts nor the trace */
+    private static void nothingElseChanges() {
+        new Router().does("addBackend(0, 0, 1)", "addBackend(1, 0, 1) * 2", "setPattern(1, 0)", "setPattern(2, 0)",
+                "configure(1, 2, 1, 9, 100, 50)", "rule('/=0~1')", "ask('/', 0, 0) * 6",
+                "backend(1) -> 1 0 1 0 0 0 0 0 0 0 3 0", "backend(2) -> 1 0 1 0 0 0 0 0 0 0 3 0",
+                "service(1) -> 2 1 9 100 50 300 2 0 0 0 0 0 0", "kept(1) -> -1 -1 -1 -1 -1 -1 -1 -1 -1 -1",
+                "counts() -> 3 1 6 6 0 0 0 6 6 0 0 0 1 0", "trace() -> 0,1,1,0");
     }
 }
