@@ -7,6 +7,7 @@ public final class PickingTest {
         atTheZoneLimit();
         spillOfHundred();
         spillOfNinetyNine();
+        spillStays();
         spillAboveHundred();
         withoutTheFraction();
         onlyOthersRemain();
@@ -86,6 +87,14 @@ public final class PickingTest {
                 "service(0, 10) -> 32");
     }
 
+    /** Where the near ones suffice, the spill stays as it is. */
+    private static void spillStays() {
+        left(1, 3, 100).taken().does("ask('/', 0, 0) * 3 -> 2 2 2", "service(0, 10) -> 75", "setZoneLimit(25)",
+                "ask('/', 0, 0) * 2 -> 0 0", "service(0, 10) -> 75", "setZoneLimit(100)", "setWeight(2, 0)", "ask('/', 0, 0) -> 0",
+                "service(0, 10) -> 75", "ask('/', 0, 2) -> 0", "service(0, 10) -> 75", "setWeight(2, 1)", "ask('/', 0, 0) -> 0",
+                "service(0, 10) -> 0");
+    }
+
     private static void spillAboveHundred() {
         left(6, 3, 100).taken().does("ask('/', 0, 0) -> 2", "service(0, 10) -> 66", "ask('/', 0, 0) -> 0", "service(0, 10) -> 32",
                 "ask('/', 0, 0) -> 2", "service(0, 10) -> 98", "ask('/', 0, 0) -> 0", "service(0, 10) -> 64");
@@ -98,6 +107,8 @@ public final class PickingTest {
         left(1, 9, 99).taken().does("ask('/', 0, 0) -> 2", "service(0, 10) -> 10");
         left(1, 9, 91).taken().does("ask('/', 0, 0) -> 2", "service(0, 10) -> 10");
         left(1, 9, 90).taken().does("ask('/', 0, 0) -> 2", "service(0, 10) -> 11");
+        // 85 and a fraction that is nearly 1.
+        left(7, 4, 74).taken().does("ask('/', 0, 0) -> 2", "service(0, 10) -> 85");
         // 20000 / 300 is 66 and a fraction, of which three do not make 200.
         left(2, 1, 100).taken().does("ask('/', 0, 0) * 3 -> 2 0 2", "service(0, 10) -> 98");
     }

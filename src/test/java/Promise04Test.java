@@ -6,6 +6,7 @@ public final class Promise04Test {
         noSuchBackend();
         eachBit();
         numberingGoesOn();
+        theRestStays();
         endsTheMarking();
         Check.end();
     }
@@ -54,6 +55,12 @@ public final class Promise04Test {
     private static void numberingGoesOn() {
         failing(0).does("ask('/', 0, 0) * 3 -> -6 -6 -6", "setPattern(0, 8)", "ask('/', 0, 0) * 2 -> 0 -6",
                 "setPattern(0, 128)", "ask('/', 0, 0) * 4 -> -6 -6 0 -6", "backend(0, 5) -> 9");
+    }
+
+    /** Nothing but the pattern is another one: the failure run stays, too. */
+    private static void theRestStays() {
+        failing(254).does("ask('/', 0, 0) -> -6", "ask('/', 0, 0) -> 0", "setPattern(0, 0)", "ask('/', 0, 0) * 2 -> -6 -6",
+                "backend(0) -> 0 0 1 0 0 4 1 2 0 0 0 0", "setPattern(0, 255)", "backend(0) -> 0 0 1 255 0 4 1 2 0 0 0 0");
     }
 
     /** "also if nothing is different afterwards" */

@@ -79,6 +79,9 @@ public final class Promise12Test {
                 "ask('/b', 0, 0) * 2 -> 1 1", "service(0) -> 0 9 1 0 10 350 1 0 5 3 0 0 0",
                 "service(1) -> 0 3 5 50 20 340 1 0 2 2 0 0 0", "service(2) -> 0 3 5 50 20 300 0 0 0 0 0 0 0",
                 "setWeight(1, 0)", "ask('/b', 0, 0) -> -5", "service(1) -> 0 3 5 50 20 340 0 0 2 2 0 0 0");
+        // Also those that a further attempt answered.
+        new Router().does("addBackend(0, 0, 1) * 2", "setPattern(0, 0)", "rule('/=0*2')", "ask('/', 0, 0) -> 1", "count(12) -> 2",
+                "service(0, 8) -> 1", "service(0, 9) -> 1", "count(3) -> 1");
     }
 
     private static void keepsTheMarking() {

@@ -65,6 +65,16 @@ public final class Promise13Test {
             Situations.changesNothing(Situations.FULL.then("type('" + text + "')"), calls);
         }
         Situations.changesNothing(Situations.FULL.then("rule('/=0')", "append(47, 40)"), calls);
+        // Without a rule, without a backend, and in zones where the spill would grow.
+        Situations.changesNothing(Situations.NEW.then("type('/')"), "foresee(0, 0) -> -4");
+        Situations.changesNothing(Steps.of("rule('/=0')", "mark()", "type('/')"), "foresee(0, 0) -> -5");
+        for (int zone = 0; zone < 3; zone++) {
+            Steps spill = Steps.of("addBackend(2, " + zone + ", 1) * 2", "addBackend(2, " + (zone + 1) % 3 + ", 1)",
+                    "configure(2, 1, 1, 9, 100, 0)", "setPattern(0, 0)", "setZoneLimit(100)", "rule('/=2~2')",
+                    "ask('/', 0, " + zone + ") -> -6", "type('/')");
+            Situations.changesNothing(spill, "foresee(0, " + zone + ") -> 2");
+            Situations.changesNothing(spill.then("request(0, " + zone + ") -> 2", "type('/')"), "foresee(0, " + zone + ") -> 1");
+        }
     }
 
     private static void refused(String text, String... calls) {

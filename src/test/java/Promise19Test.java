@@ -7,6 +7,7 @@ public final class Promise19Test {
 
     public static void main(String[] args) {
         parts();
+        ejectedBefore();
         emptyAtFirst();
         latestRequest();
         mostAttempts();
@@ -23,6 +24,13 @@ public final class Promise19Test {
     private static void parts() {
         TWO.taken().does("ask('/a', 0, 0) -> 2", "trace() -> 0,0,1,0 2,1,0,0", "ask('/a', 0, 2) -> 2", "trace() -> 2,1,0,0",
                 "tick(9)", "ask('/a', 0, 0) -> 2", "trace() -> 0,0,1,1 2,1,0,0");
+    }
+
+    /** "the attempt led to its ejection": not an earlier one. */
+    private static void ejectedBefore() {
+        new Router().does("addBackend(0, 0, 1)", "configure(0, 0, 2, 1, 100, 0)", "setPattern(0, 8)", "rule('/=0')",
+                "ask('/', 0, 0)", "trace() -> 0,0,1,0", "ask('/', 0, 0)", "trace() -> 0,0,1,1", "tick(1)", "ask('/', 0, 0)",
+                "trace() -> 0,0,1,0", "ask('/', 0, 0)", "trace() -> 0,1,1,0");
     }
 
     private static void emptyAtFirst() {

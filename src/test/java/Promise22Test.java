@@ -44,6 +44,8 @@ public final class Promise22Test {
         Check.due("the printed text", x.printed(), "/c=2");
         x.does("removeRule(0)", "rule('/d=1')", "append(97, 40)", "request(0, 0)");
         Check.due("the printed text", x.printed(), "/c=2");
+        x.does("removeRule(0) -> 0");
+        Check.due("the printed text", x.printed(), "/c=2");
     }
 
     private static void nothingChanges() {

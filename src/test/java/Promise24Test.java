@@ -17,6 +17,7 @@ public final class Promise24Test {
         requestsWithoutAnswer();
         headersAndZones();
         longestRecording();
+        shorterRecording();
         nothingChanges();
         Check.end();
     }
@@ -90,17 +91,26 @@ public final class Promise24Test {
                 "setWeight(0, 0)", "ask('/', 4, 0) -> 1", "setWeight(0, 1)");
         fromTheMark(sticky, "ask('/', 3, 0) -> 0", 1);
         fromTheMark(sticky, "ask('/', 4, 0) -> 1", 1);
-        Steps spill = Steps.of("addBackend(0, 0, 1) * 2", "addBackend(0, 1, 1)", "rule('/=0')", "configure(0, 1, 1, 20, 100, 0)",
-                "setPattern(0, 0)", "setZoneLimit(100)", "ask('/', 0, 0) * 2 -> -6 2", "service(0, 10) -> 50");
-        fromTheMark(spill, "ask('/', 0, 0) * 3 -> 1 2 1", 3);
+        for (int header = 0; header < 10; header++) {
+            String ask = "ask('/', " + header + ", ";
+            Router x = new Router().does("addBackend(0, 0, 1)", "addBackend(0, 1, 1)", "rule('/=0')", "configure(0, 2, 9, 1, 0, 0)",
+                    ask + "0) -> 0", "mark()", ask + "2) -> 0", ask + "1) -> 1", ask + "2) -> 1");
+            plays(x, 0, 0, 3);
+        }
+        for (int zone = 0; zone < 3; zone++) {
+            Steps spill = Steps.of("addBackend(0, " + zone + ", 1) * 2", "addBackend(0, " + (zone + 1) % 3 + ", 1)", "rule('/=0')",
+                    "configure(0, 1, 1, 20, 100, 0)", "setPattern(0, 0)", "setZoneLimit(100)",
+                    "ask('/', 0, " + zone + ") * 2 -> -6 2", "service(0, " + (10 + zone) + ") -> 50");
+            fromTheMark(spill, "ask('/', 0, " + zone + ") * 3 -> 1 2 1", 3);
+        }
         Steps ejected = Steps.of("addBackend(0, 0, 1)", "setPattern(0, 2)", "rule('/=0')", "configure(0, 1, 1, 3, 100, 0)",
                 "ask('/', 0, 0) -> -6", "tick(1)", "backend(0, 9) -> 2");
         fromTheMark(ejected, "ask('/', 0, 0) -> -5", 0);
         Steps ejections = Steps.of("addBackend(0, 0, 1)", "setPattern(0, 0)", "rule('/=0')", "configure(0, 1, 1, 1, 100, 0)",
                 "ask('/', 0, 0) -> -6", "tick(1)");
-        Router x = ejections.taken().does("mark()", "ask('/', 0, 0) -> -6", "tick(1)", "ask('/', 0, 0) -> -5", "tick(1)",
+        Router y = ejections.taken().does("mark()", "ask('/', 0, 0) -> -6", "tick(1)", "ask('/', 0, 0) -> -5", "tick(1)",
                 "ask('/', 0, 0) -> -6");
-        plays(x, 0, 0, 0);
+        plays(y, 0, 0, 0);
     }
 
     private static void fromTheMark(Steps before, String requests, int answered) {
@@ -228,8 +238,21 @@ public final class Promise24Test {
         plays(x, 3, 30, 60);
     }
 
+    /** What was recorded and played before an earlier mark does not count any more. */
+    private static void shorterRecording() {
+        Router x = new Router().does("addBackend(0, 0, 1) * 2", "setPattern(0, 0)", "configure(0, 1, 9, 1, 0, 100)",
+                "rule('/=0*2')", "mark()", "ask('/', 0, 0) * 3 -> 1 1 1");
+        plays(x, 1, 2, 1);
+        x.does("mark()", "tick(2)");
+        plays(x, 0, 0, 0);
+        plays(x, 1, 0, 0);
+        x.does("ask('/', 0, 0) -> 1");
+        plays(x, 0, 0, 1);
+    }
+
     private static void nothingChanges() {
-        for (Steps situation : new Steps[] {Situations.USED, Situations.USED.then("type('/ab')"), Situations.FULL}) {
+        for (Steps situation : new Steps[] {Situations.USED, Situations.USED.then("type('/ab')"), Situations.FULL,
+            Situations.MARKED}) {
             Situations.changesNothing(situation, "play(0) -> 0", "play(1)", "play(2)", "play(3)", "play(4)");
         }
     }

@@ -50,7 +50,8 @@ public final class Promise25Test {
     }
 
     private static void nothingChanges() {
-        for (Steps situation : new Steps[] {Situations.USED, Situations.USED.then("type('/ab')"), Situations.FULL}) {
+        for (Steps situation : new Steps[] {Situations.USED, Situations.USED.then("type('/ab')"), Situations.FULL,
+            Situations.MARKED}) {
             Situations.changesNothing(situation, "answeredIf(0)", "answeredIf(1)", "answeredIf(2)", "answeredIf(3)",
                     "answeredIf(4)");
         }

@@ -2,6 +2,7 @@
 public final class ShadowTest {
     public static void main(String[] args) {
         fewestAttempts();
+        fewestAnywhere();
         lowestNumber();
         byItsPattern();
         noMember();
@@ -17,6 +18,16 @@ public final class ShadowTest {
                 "rule('/=0~1')", "ask('/', 0, 0) * 5", "backend(1, 10) -> 3", "backend(2, 10) -> 2", "backend(3, 10) -> 0",
                 "setWeight(3, 1)", "ask('/', 0, 0) * 2", "backend(1, 10) -> 3", "backend(2, 10) -> 2", "backend(3, 10) -> 2",
                 "ask('/', 0, 0) * 2", "backend(1, 10) -> 3", "backend(2, 10) -> 3", "backend(3, 10) -> 3");
+    }
+
+    /** The fewest may be those of the first one, of one between and of the last one. */
+    private static void fewestAnywhere() {
+        for (int fewest = 0; fewest < 3; fewest++) {
+            Router x = new Router().does("addBackend(1, 0, 1) * 3", "rule('/=0~1')", "setWeight(" + fewest + ", 0)",
+                    "ask('/', 0, 0) * 6", "backend(" + fewest + ", 10) -> 0", "setWeight(" + fewest + ", 1)");
+            x.does("ask('/', 0, 0) * 3", "backend(" + fewest + ", 10) -> 3", "count(8) -> 9", "ask('/', 0, 0)",
+                    "backend(0, 10) -> 4", "backend(1, 10) -> 3", "backend(2, 10) -> 3");
+        }
     }
 
     /** "of several the one with the lowest number" */
