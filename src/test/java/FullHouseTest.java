@@ -13,13 +13,15 @@ public final class FullHouseTest {
     private static Steps full(int policy) {
         return x -> {
             for (int i = 0; i < 12; i++) {
-                x.does("addBackend(" + i % 2 * 3 + ", " + i % 3 + ", 9) -> " + i, "setPattern(" + i + ", " + i * 21 + ")");
+                x.does("addBackend(" + i % 2 * 3 + ", " + i % 3 + ", 9) -> " + i,
+                        "setPattern(" + i + ", " + i * 21 + ")");
             }
             for (int i = 0; i < 8; i++) {
                 x.does("append(47, 1)", "append(97, 17)", "type('[" + i + "-8]=0:9,3:9,1:9~3*4') -> 39",
                         "addRule() -> " + i);
             }
-            x.does("configure(0, " + policy + ", 1, 20, 100, 100) -> 0", "configure(3, " + policy + ", 1, 20, 100, 100) -> 0");
+            x.does("configure(0, " + policy + ", 1, 20, 100, 100) -> 0",
+                    "configure(3, " + policy + ", 1, 20, 100, 100) -> 0");
         };
     }
 
@@ -44,7 +46,8 @@ public final class FullHouseTest {
         x.does("mark() -> 12");
         model.does("mark() -> 12");
         for (int i = 0; i < 60; i++) {
-            String[] calls = {"append(47, 1)", "append(97, 39)", "request(" + i % 10 + ", " + i % 3 + ")", "count(11)"};
+            String[] calls = {"append(47, 1)", "append(97, 39)", "request(" + i % 10 + ", " + i % 3 + ")",
+                    "count(11)"};
             for (String call : calls) {
                 Check.due(call, x.asks(call), model.asks(call));
             }

@@ -99,7 +99,8 @@ public final class LanguageTest {
 
     /** Rules 2, 4, 5, 6 and 13, as far as words tell. */
     private static void source(String code) {
-        List<String> banned = List.of("\\bthrow\\b", "\\bthrows\\b", "\\btry\\b", "\\bcatch\\b", "\\bsynchronized\\b",
+        List<String> banned = List.of("\\bthrow\\b", "\\bthrows\\b", "\\btry\\b", "\\bcatch\\b",
+                "\\bsynchronized\\b",
                 "\\bassert\\b", "\\bpackage\\b", "\\bprotected\\b", "::", "\\bThread\\b", "\\bfinalize\\b",
                 "\\bhashCode\\b", "\\bstatic\\s*\\{", "\\bnative\\b", "\\bvolatile\\b", "\\byield\\b",
                 "\\bimport\\s+(?!java\\.util\\.(ArrayList|List|Arrays|Iterator);)", "\\bjava\\.(?!util\\.)");

@@ -1,11 +1,13 @@
 /** Arguments at and beyond all bounds, in all combinations: every call is answered as by the model. */
 public final class OddArgumentsTest {
-    private static final int[] ODD = {Integer.MIN_VALUE, Integer.MIN_VALUE + 1, -101, -3, -2, -1, 0, 1, 2, 3, 4, 5, 6, 7, 8,
-        9, 10, 11, 12, 13, 14, 19, 20, 21, 39, 40, 41, 49, 50, 51, 59, 60, 61, 99, 100, 101, 127, 128, 255, 256,
-        1 << 16, 1 << 30, Integer.MAX_VALUE};
-    private static final String[] ONE = {"match", "setZoneLimit", "removeRule", "tick", "count", "print", "printed", "play",
+    private static final int[] ODD = {Integer.MIN_VALUE, Integer.MIN_VALUE + 1, -101, -3, -2, -1, 0, 1, 2, 3,
+        4, 5, 6, 7, 8, 9, 10, 11, 12, 13, 14, 19, 20, 21, 39, 40, 41, 49, 50, 51, 59, 60, 61, 99, 100, 101, 127, 128,
+        255, 256, 1 << 16, 1 << 30, Integer.MAX_VALUE};
+    private static final String[] ONE = {"match", "setZoneLimit", "removeRule", "tick", "count", "print",
+            "printed", "play",
         "answeredIf"};
-    private static final String[] TWO = {"setWeight", "setPattern", "append", "moveRule", "request", "foresee", "backend",
+    private static final String[] TWO = {"setWeight", "setPattern", "append", "moveRule", "request", "foresee",
+            "backend",
         "service", "remembered", "trace"};
     private static final String[] THREE = {"addBackend", "target"};
 

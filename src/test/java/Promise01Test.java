@@ -22,10 +22,9 @@ public final class Promise01Test {
 
     /** "Creates a router without backends and rules." */
     private static void withoutBackendsAndRules() {
-        new Router().does("counts() -> 0 0 0 0 0 0 0 0 0 0 0 0 0 0", "backend(0, 0) -> -1",
-                "print(0) -> -1", "target(0, 0, 0) -> -1", "setWeight(0, 1) -> -1",
-                "setPattern(0, 1) -> -1", "removeRule(0) -> -1", "moveRule(0, 0) -> -1",
-                "matched('/', 0) -> -1", "ask('/', 0, 0) -> -4");
+        new Router().does("counts() -> 0 0 0 0 0 0 0 0 0 0 0 0 0 0", "backend(0, 0) -> -1", "print(0) -> -1",
+                "target(0, 0, 0) -> -1", "setWeight(0, 1) -> -1", "setPattern(0, 1) -> -1",
+                "removeRule(0) -> -1", "moveRule(0, 0) -> -1", "matched('/', 0) -> -1", "ask('/', 0, 0) -> -4");
     }
 
     /**
@@ -40,7 +39,7 @@ public final class Promise01Test {
         }
     }
 
-    /** "The zone limit is 70": asked for, and as it works, on both sides of it. */
+    /** "the zone limit is 70": asked for, and as it works, on both sides of it. */
     private static void zoneLimit() {
         new Router().does("setZoneLimit(1) -> 70");
         Steps sevenOfTenLeft = Steps.of("addBackend(0, 0, 3)", "addBackend(0, 0, 7)", "addBackend(0, 1, 1)",

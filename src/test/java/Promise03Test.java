@@ -40,24 +40,24 @@ public final class Promise03Test {
     private static void creditStays() {
         new Router().does("addBackend(0, 0, 2)", "addBackend(0, 0, 1)", "rule('/=0')", "ask('/', 0, 0) -> 0",
                 "backend(0, 4) -> -1", "backend(1, 4) -> 1", "setWeight(0, 9)", "setWeight(1, 0)",
-                "backend(0, 4) -> -1", "backend(1, 4) -> 1", "ask('/', 0, 0) -> 0",
-                "backend(0, 4) -> -1", "backend(1, 4) -> 1", "setWeight(1, 1) -> 0", "backend(1, 4) -> 1");
+                "backend(0, 4) -> -1", "backend(1, 4) -> 1", "ask('/', 0, 0) -> 0", "backend(0, 4) -> -1",
+                "backend(1, 4) -> 1", "setWeight(1, 1) -> 0", "backend(1, 4) -> 1");
     }
 
     /** "The members of a service are its backends with a weight above 0." */
     private static void membership() {
         new Router().does("addBackend(0, 0, 0)", "rule('/=0')", "service(0, 6) -> 0", "ask('/', 0, 0) -> -5",
-                "setWeight(0, 1) -> 0", "service(0, 6) -> 1", "ask('/', 0, 0) -> 0",
-                "setWeight(0, 0) -> 1", "service(0, 6) -> 0", "ask('/', 0, 0) -> -5");
+                "setWeight(0, 1) -> 0", "service(0, 6) -> 1", "ask('/', 0, 0) -> 0", "setWeight(0, 0) -> 1",
+                "service(0, 6) -> 0", "ask('/', 0, 0) -> -5");
     }
 
     /** "Ejected backends with the weight 0 are no members", but are ejected all the same. */
     private static void ejectedWithoutWeight() {
         new Router().does("addBackend(0, 0, 1)", "setPattern(0, 0)", "configure(0, 0, 1, 5, 100, 0)",
                 "rule('/=0')", "ask('/', 0, 0) -> -6", "service(0, 6) -> 1", "service(0, 7) -> 1",
-                "setWeight(0, 0)", "service(0, 6) -> 0", "service(0, 7) -> 0", "backend(0, 9) -> 5",
-                "tick(2)", "setWeight(0, 1)", "backend(0, 9) -> 3", "service(0, 7) -> 1",
-                "ask('/', 0, 0) -> -5", "tick(3)", "service(0, 7) -> 0", "ask('/', 0, 0) -> -6");
+                "setWeight(0, 0)", "service(0, 6) -> 0", "service(0, 7) -> 0", "backend(0, 9) -> 5", "tick(2)",
+                "setWeight(0, 1)", "backend(0, 9) -> 3", "service(0, 7) -> 1", "ask('/', 0, 0) -> -5",
+                "tick(3)", "service(0, 7) -> 0", "ask('/', 0, 0) -> -6");
     }
 
     /** "also if nothing is different afterwards" */

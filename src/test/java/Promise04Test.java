@@ -14,7 +14,8 @@ public final class Promise04Test {
     /** "Returns the previous pattern", which is "at first 255". */
     private static void previousPattern() {
         new Router().does("addBackend(0, 0, 3)", "addBackend(0, 0, 3)", "setPattern(0, 77) -> 255",
-                "backend(0, 3) -> 77", "backend(1, 3) -> 255", "setPattern(0, 77) -> 77", "setPattern(0, 1) -> 77");
+                "backend(0, 3) -> 77", "backend(1, 3) -> 255", "setPattern(0, 77) -> 77",
+                "setPattern(0, 1) -> 77");
     }
 
     /** "pattern: the pattern, 0 to 255" */
@@ -59,8 +60,9 @@ public final class Promise04Test {
 
     /** Nothing but the pattern is another one: the failure run stays, too. */
     private static void theRestStays() {
-        failing(254).does("ask('/', 0, 0) -> -6", "ask('/', 0, 0) -> 0", "setPattern(0, 0)", "ask('/', 0, 0) * 2 -> -6 -6",
-                "backend(0) -> 0 0 1 0 0 4 1 2 0 0 0 0", "setPattern(0, 255)", "backend(0) -> 0 0 1 255 0 4 1 2 0 0 0 0");
+        failing(254).does("ask('/', 0, 0) -> -6", "ask('/', 0, 0) -> 0", "setPattern(0, 0)",
+                "ask('/', 0, 0) * 2 -> -6 -6", "backend(0) -> 0 0 1 0 0 4 1 2 0 0 0 0", "setPattern(0, 255)",
+                "backend(0) -> 0 0 1 255 0 4 1 2 0 0 0 0");
     }
 
     /** "also if nothing is different afterwards" */

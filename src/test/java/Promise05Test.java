@@ -82,10 +82,9 @@ public final class Promise05Test {
     /** "What it remembers stays"; and its tokens, its counts, its spill and who is ejected. */
     private static void whatStays() {
         new Router().does("addBackend(0, 0, 1)", "addBackend(0, 0, 1)", "addBackend(0, 1, 1)",
-                "configure(0, 2, 1, 7, 100, 50)", "setZoneLimit(100)", "rule('/=0')",
-                "ask('/', 4, 0) -> 0", "setPattern(1, 0)", "ask('/', 5, 0) -> -6", "ask('/', 6, 0) -> 2",
-                "backend(1, 9) -> 7", "kept(0) -> -1 -1 -1 -1 0 1 2 -1 -1 -1",
-                "service(0) -> 2 1 7 100 50 450 3 1 3 2 50 0 0",
+                "configure(0, 2, 1, 7, 100, 50)", "setZoneLimit(100)", "rule('/=0')", "ask('/', 4, 0) -> 0",
+                "setPattern(1, 0)", "ask('/', 5, 0) -> -6", "ask('/', 6, 0) -> 2", "backend(1, 9) -> 7",
+                "kept(0) -> -1 -1 -1 -1 0 1 2 -1 -1 -1", "service(0) -> 2 1 7 100 50 450 3 1 3 2 50 0 0",
                 "configure(0, 0, 5, 1, 0, 0) -> 2", "backend(1, 9) -> 7",
                 "kept(0) -> -1 -1 -1 -1 0 1 2 -1 -1 -1", "service(0) -> 0 5 1 0 0 450 3 1 3 2 50 0 0",
                 "configure(0, 2, 5, 1, 0, 0) -> 0", "ask('/', 6, 1) -> 2", "ask('/', 4, 0) -> 0");
@@ -93,8 +92,8 @@ public final class Promise05Test {
 
     /** "also if nothing is different afterwards" */
     private static void endsTheMarking() {
-        Situations.USED.taken().does("play(0) -> 0", "configure(1, 1, 2, 3, 100, 9) -> 1",
-                "play(0) -> -1", "count(11) -> 0");
+        Situations.USED.taken().does("play(0) -> 0", "configure(1, 1, 2, 3, 100, 9) -> 1", "play(0) -> -1",
+                "count(11) -> 0");
     }
 
     private static void refused(String... calls) {

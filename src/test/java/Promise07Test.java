@@ -24,19 +24,19 @@ public final class Promise07Test {
 
     /** "code: the character, 0 to 127" */
     private static void code() {
-        new Router().does("append(0, 1) -> 1", "append(127, 1) -> 2", "addRule() -> -100",
-                "append(47, 1) -> 1", "append(0, 1) -> 2", "addRule() -> -101",
-                "append(47, 1) -> 1", "append(127, 1) -> 2", "addRule() -> -101");
-        refused("append(-1, 1) -> -2", "append(128, 1) -> -2", "append(303, 1) -> -2",
-                "append(min, 1) -> -2", "append(max, 1) -> -2");
+        new Router().does("append(0, 1) -> 1", "append(127, 1) -> 2", "addRule() -> -100", "append(47, 1) -> 1",
+                "append(0, 1) -> 2", "addRule() -> -101", "append(47, 1) -> 1", "append(127, 1) -> 2",
+                "addRule() -> -101");
+        refused("append(-1, 1) -> -2", "append(128, 1) -> -2", "append(303, 1) -> -2", "append(min, 1) -> -2",
+                "append(max, 1) -> -2");
     }
 
     /** "count: how many times, 1 to 40" */
     private static void count() {
         new Router().does("append(97, 1) -> 1", "count(13) -> 1");
         new Router().does("append(47, 40) -> 40", "count(13) -> 40", "match(0) -> -1");
-        refused("append(97, 0) -> -2", "append(97, 41) -> -2", "append(97, -1) -> -2",
-                "append(97, min) -> -2", "append(97, max) -> -2");
+        refused("append(97, 0) -> -2", "append(97, 41) -> -2", "append(97, -1) -> -2", "append(97, min) -> -2",
+                "append(97, max) -> -2");
     }
 
     /** "FULL if the text would have more than 40 characters" */

@@ -181,10 +181,9 @@ public final class Promise08Test {
      */
     private static void missingParts() {
         Router x = new Router().does("addBackend(0, 0, 1)", "addBackend(0, 0, 1)", "addBackend(1, 0, 1)",
-                "setPattern(0, 0)", "configure(0, 0, 9, 1, 0, 0)",
-                "rule('/[3-4]=0:7~1*3') -> 0", "rule('/=0') -> 1", "removeRule(0) -> 1",
-                "matched('/', 0) -> 0", "matched('/', 9) -> 0", "targets(0) -> 0,1,0,0",
-                "ask('/', 0, 0) -> -6", "count(7) -> 1", "count(8) -> 0");
+                "setPattern(0, 0)", "configure(0, 0, 9, 1, 0, 0)", "rule('/[3-4]=0:7~1*3') -> 0",
+                "rule('/=0') -> 1", "removeRule(0) -> 1", "matched('/', 0) -> 0", "matched('/', 9) -> 0",
+                "targets(0) -> 0,1,0,0", "ask('/', 0, 0) -> -6", "count(7) -> 1", "count(8) -> 0");
         x.does("rule('/=0*2') -> 1", "moveRule(1, 0) -> 1", "ask('/', 0, 0) * 2 -> 1 1", "count(7) -> 4");
     }
 

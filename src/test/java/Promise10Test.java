@@ -54,7 +54,8 @@ public final class Promise10Test {
         Situations.changesNothing(Situations.NEW, "moveRule(0, 0) -> -1", "moveRule(-1, -1) -> -1");
         Situations.USED.taken().does("moveRule(1, 0) -> 1");
         Situations.changesNothing(Situations.USED, "moveRule(2, 0) -> -1", "moveRule(-1, 0) -> -1",
-                "moveRule(2, 2) -> -1", "moveRule(-1, 2) -> -1", "moveRule(min, 0) -> -1", "moveRule(max, 0) -> -1");
+                "moveRule(2, 2) -> -1", "moveRule(-1, 2) -> -1", "moveRule(min, 0) -> -1",
+                "moveRule(max, 0) -> -1");
         Situations.changesNothing(Situations.FULL, "moveRule(8, 0) -> -1");
     }
 

@@ -15,13 +15,15 @@ public final class Promise13Test {
     /** "header: the header value, 0 to 9" */
     private static void header() {
         ONE.taken().does("foreseen('/', 0, 0) -> 0", "foreseen('/', 9, 0) -> 0");
-        refused("/", "foresee(-1, 0) -> -2", "foresee(10, 0) -> -2", "foresee(min, 0) -> -2", "foresee(max, 0) -> -2");
+        refused("/", "foresee(-1, 0) -> -2", "foresee(10, 0) -> -2", "foresee(min, 0) -> -2",
+                "foresee(max, 0) -> -2");
     }
 
     /** "zone: the zone, 0 to 2" */
     private static void zone() {
         ONE.taken().does("foreseen('/', 0, 0) -> 0", "foreseen('/', 0, 2) -> 0");
-        refused("/", "foresee(0, -1) -> -2", "foresee(0, 3) -> -2", "foresee(0, min) -> -2", "foresee(0, max) -> -2");
+        refused("/", "foresee(0, -1) -> -2", "foresee(0, 3) -> -2", "foresee(0, min) -> -2",
+                "foresee(0, max) -> -2");
     }
 
     /** "BAD_ARGUMENT and BAD_TEXT as for request" */
@@ -39,9 +41,9 @@ public final class Promise13Test {
     /** "Returns the answer that a request would have": for each in a long row of requests. */
     private static void theAnswer() {
         Router x = new Router().does("addBackend(0, 0, 1)", "addBackend(0, 0, 2)", "addBackend(0, 1, 1)",
-                "setPattern(0, 2)", "setPattern(1, 10)", "setPattern(2, 102)", "configure(0, 2, 2, 3, 60, 20)", "rule('/a=0~0*2')",
-                "rule('/b=0,1')", "rule('/c=2')", "foreseen('/d', 0, 0) -> -4", "foreseen('/c', 0, 0) -> -5",
-                "mark() -> 3");
+                "setPattern(0, 2)", "setPattern(1, 10)", "setPattern(2, 102)", "configure(0, 2, 2, 3, 60, 20)",
+                "rule('/a=0~0*2')", "rule('/b=0,1')", "rule('/c=2')", "foreseen('/d', 0, 0) -> -4",
+                "foreseen('/c', 0, 0) -> -5", "mark() -> 3");
         int[] seen = new int[2];
         for (int i = 0; i < 45; i++) {
             x.does(i % 4 == 3 ? "type('/b')" : "type('/a')");
@@ -69,11 +71,13 @@ public final class Promise13Test {
         Situations.changesNothing(Situations.NEW.then("type('/')"), "foresee(0, 0) -> -4");
         Situations.changesNothing(Steps.of("rule('/=0')", "mark()", "type('/')"), "foresee(0, 0) -> -5");
         for (int zone = 0; zone < 3; zone++) {
-            Steps spill = Steps.of("addBackend(2, " + zone + ", 1) * 2", "addBackend(2, " + (zone + 1) % 3 + ", 1)",
-                    "configure(2, 1, 1, 9, 100, 0)", "setPattern(0, 0)", "setZoneLimit(100)", "rule('/=2~2')",
-                    "ask('/', 0, " + zone + ") -> -6", "type('/')");
+            Steps spill = Steps.of("addBackend(2, " + zone + ", 1) * 2",
+                    "addBackend(2, " + (zone + 1) % 3 + ", 1)", "configure(2, 1, 1, 9, 100, 0)",
+                    "setPattern(0, 0)", "setZoneLimit(100)", "rule('/=2~2')", "ask('/', 0, " + zone + ") -> -6",
+                    "type('/')");
             Situations.changesNothing(spill, "foresee(0, " + zone + ") -> 2");
-            Situations.changesNothing(spill.then("request(0, " + zone + ") -> 2", "type('/')"), "foresee(0, " + zone + ") -> 1");
+            Situations.changesNothing(spill.then("request(0, " + zone + ") -> 2", "type('/')"),
+                    "foresee(0, " + zone + ") -> 1");
         }
     }
 

@@ -1,7 +1,7 @@
 /** remembered. */
 public final class Promise17Test {
-    private static final Steps STICKY = Steps.of("addBackend(3, 0, 1) * 2", "configure(3, 2, 9, 1, 0, 0)", "rule('/=3')",
-            "ask('/', 9, 0) -> 0", "ask('/', 0, 0) -> 1");
+    private static final Steps STICKY = Steps.of("addBackend(3, 0, 1) * 2", "configure(3, 2, 9, 1, 0, 0)",
+            "rule('/=3')", "ask('/', 9, 0) -> 0", "ask('/', 0, 0) -> 1");
 
     public static void main(String[] args) {
         backend();
@@ -15,8 +15,9 @@ public final class Promise17Test {
 
     /** "Returns the backend that a service remembers for a header value." */
     private static void backend() {
-        STICKY.taken().does("remembered(3, 9) -> 0", "remembered(3, 0) -> 1", "kept(3) -> 1 -1 -1 -1 -1 -1 -1 -1 -1 0",
-                "kept(0) -> -1 -1 -1 -1 -1 -1 -1 -1 -1 -1", "kept(2) -> -1 -1 -1 -1 -1 -1 -1 -1 -1 -1");
+        STICKY.taken().does("remembered(3, 9) -> 0", "remembered(3, 0) -> 1",
+                "kept(3) -> 1 -1 -1 -1 -1 -1 -1 -1 -1 0", "kept(0) -> -1 -1 -1 -1 -1 -1 -1 -1 -1 -1",
+                "kept(2) -> -1 -1 -1 -1 -1 -1 -1 -1 -1 -1");
     }
 
     private static void eachHeader() {

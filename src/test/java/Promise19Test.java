@@ -22,15 +22,15 @@ public final class Promise19Test {
 
     /** "the backend", "1 if it succeeded", "1 if it is in the zone", "1 if the attempt led to its ejection" */
     private static void parts() {
-        TWO.taken().does("ask('/a', 0, 0) -> 2", "trace() -> 0,0,1,0 2,1,0,0", "ask('/a', 0, 2) -> 2", "trace() -> 2,1,0,0",
-                "tick(9)", "ask('/a', 0, 0) -> 2", "trace() -> 0,0,1,1 2,1,0,0");
+        TWO.taken().does("ask('/a', 0, 0) -> 2", "trace() -> 0,0,1,0 2,1,0,0", "ask('/a', 0, 2) -> 2",
+                "trace() -> 2,1,0,0", "tick(9)", "ask('/a', 0, 0) -> 2", "trace() -> 0,0,1,1 2,1,0,0");
     }
 
     /** "the attempt led to its ejection": not an earlier one. */
     private static void ejectedBefore() {
-        new Router().does("addBackend(0, 0, 1)", "configure(0, 0, 2, 1, 100, 0)", "setPattern(0, 8)", "rule('/=0')",
-                "ask('/', 0, 0)", "trace() -> 0,0,1,0", "ask('/', 0, 0)", "trace() -> 0,0,1,1", "tick(1)", "ask('/', 0, 0)",
-                "trace() -> 0,0,1,0", "ask('/', 0, 0)", "trace() -> 0,1,1,0");
+        new Router().does("addBackend(0, 0, 1)", "configure(0, 0, 2, 1, 100, 0)", "setPattern(0, 8)",
+                "rule('/=0')", "ask('/', 0, 0)", "trace() -> 0,0,1,0", "ask('/', 0, 0)", "trace() -> 0,0,1,1",
+                "tick(1)", "ask('/', 0, 0)", "trace() -> 0,0,1,0", "ask('/', 0, 0)", "trace() -> 0,1,1,0");
     }
 
     private static void emptyAtFirst() {
@@ -45,8 +45,8 @@ public final class Promise19Test {
 
     /** As many attempts as there may be. */
     private static void mostAttempts() {
-        Steps failing = Steps.of("addBackend(0, 0, 1) * 5", "setPattern(0, 0)", "setPattern(1, 0)", "setPattern(2, 0)",
-                "setPattern(3, 0)", "setPattern(4, 0)", "configure(0, 0, 9, 1, 0, 100)");
+        Steps failing = Steps.of("addBackend(0, 0, 1) * 5", "setPattern(0, 0)", "setPattern(1, 0)",
+                "setPattern(2, 0)", "setPattern(3, 0)", "setPattern(4, 0)", "configure(0, 0, 9, 1, 0, 100)");
         failing.taken().does("rule('/=0*4')", "ask('/', 0, 0) -> -6", "trace() -> 0,0,1,0 1,0,1,0 2,0,1,0 3,0,1,0",
                 "count(12) -> 4", "trace(3, 0) -> 3", "trace(4, 0) -> -1");
         failing.taken().does("rule('/=0')", "ask('/', 0, 0) -> -6", "trace() -> 0,0,1,0", "count(12) -> 1",
@@ -66,10 +66,11 @@ public final class Promise19Test {
     /** It stays with all calls but request and restore. */
     private static void staysOtherwise() {
         TWO.taken().does("ask('/a', 10, 0) -> -2", "ask('!', 0, 0) -> -7", "foreseen('/a', 0, 0) -> 2", "tick(1)",
-                "addBackend(0, 0, 9) -> 3", "setWeight(2, 3)", "setPattern(2, 0)", "configure(0, 1, 1, 1, 1, 1)",
-                "setZoneLimit(7)", "mark()", "play(0) -> 0", "answeredIf(2) -> 0", "save()", "rule('/=2') -> 2",
-                "moveRule(2, 0)", "removeRule(2)", "print(0)", "matched('/a', 0) -> 0", "trace() -> 1,0,1,1 2,1,1,0",
-                "restore()", "count(12) -> 0", "trace(0, 0) -> -1");
+                "addBackend(0, 0, 9) -> 3", "setWeight(2, 3)", "setPattern(2, 0)",
+                "configure(0, 1, 1, 1, 1, 1)", "setZoneLimit(7)", "mark()", "play(0) -> 0",
+                "answeredIf(2) -> 0", "save()", "rule('/=2') -> 2", "moveRule(2, 0)", "removeRule(2)",
+                "print(0)", "matched('/a', 0) -> 0", "trace() -> 1,0,1,1 2,1,1,0", "restore()",
+                "count(12) -> 0", "trace(0, 0) -> -1");
     }
 
     /** "NONE if there is no such attempt", which is listed before BAD_ARGUMENT. */

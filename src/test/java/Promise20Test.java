@@ -12,16 +12,18 @@ public final class Promise20Test {
     /** All counts, most of them different. */
     private static void counts() {
         new Router().does("addBackend(0, 0, 1) * 3", "setPattern(0, 0)", "setPattern(1, 0)", "setPattern(2, 0)",
-                "configure(0, 0, 1, 9, 67, 0)", "rule('/a=0~0*2')", "rule('/b=1')", "ask('/a', 0, 0) * 2 -> -6 -6",
-                "ask('/b', 0, 0) * 3 -> -5 -5 -5", "ask('/', 0, 0) * 4 -> -4 -4 -4 -4", "tick(5)", "setPattern(2, 255)",
+                "configure(0, 0, 1, 9, 67, 0)", "rule('/a=0~0*2')", "rule('/b=1')",
+                "ask('/a', 0, 0) * 2 -> -6 -6", "ask('/b', 0, 0) * 3 -> -5 -5 -5",
+                "ask('/', 0, 0) * 4 -> -4 -4 -4 -4", "tick(5)", "setPattern(2, 255)",
                 "ask('/a', 0, 0) * 2 -> 2 2", "mark()", "ask('/a', 0, 0) -> 2", "tick(11)", "type('/abcdef')",
                 "counts() -> 3 2 12 3 4 3 2 6 5 2 16 12 1 7");
     }
 
     /** "recorded requests and ticks": none before the mark, up to 60 */
     private static void recorded() {
-        new Router().does("ask('/', 0, 0)", "tick(3)", "count(11) -> 0", "mark()", "count(11) -> 0", "ask('/', 0, 0)",
-                "count(11) -> 1", "tick(50)", "count(11) -> 51", "tick(9)", "count(11) -> 60");
+        new Router().does("ask('/', 0, 0)", "tick(3)", "count(11) -> 0", "mark()", "count(11) -> 0",
+                "ask('/', 0, 0)", "count(11) -> 1", "tick(50)", "count(11) -> 51", "tick(9)",
+                "count(11) -> 60");
     }
 
     /** "characters of the text": from 0 to 40 */

@@ -12,7 +12,8 @@ public final class Promise21Test {
     }
 
     private static void shows(String typed, String printed) {
-        new Router().does("rule('" + typed + "') -> 0", "print(0) -> " + printed.length(), "shown(0) -> " + printed);
+        new Router().does("rule('" + typed + "') -> 0", "print(0) -> " + printed.length(),
+                "shown(0) -> " + printed);
     }
 
     /** "parts that may be missing are missing if they say what is meant without them" */
@@ -43,15 +44,17 @@ public final class Promise21Test {
 
     /** "The printed text replaces the one before": a shorter one the whole of a longer one. */
     private static void replaces() {
-        Router x = new Router().does("rule('/a[0-8]=0:2,1~0*2')", "rule('/=3')", "print(0) -> 17", "print(1) -> 3");
+        Router x = new Router().does("rule('/a[0-8]=0:2,1~0*2')", "rule('/=3')", "print(0) -> 17",
+                "print(1) -> 3");
         Check.due("the printed text", x.printed(), "/=3");
     }
 
     /** "Returns the length of the printed text": from 3 to 40 */
     private static void length() {
-        new Router().does("rule('/=0')", "print(0) -> 3", "append(47, 38)", "type('=1')", "addRule() -> 1", "print(1) -> 40",
-                "append(47, 19)", "type('[1-8]=0:2,1:3,3:4~2*4') -> 40", "addRule() -> 2", "print(2) -> 40",
-                "append(47, 16)", "type('[0-9]=0:1,1:1,3:1~2*1') -> 37", "addRule() -> 3", "print(3) -> 24");
+        new Router().does("rule('/=0')", "print(0) -> 3", "append(47, 38)", "type('=1')", "addRule() -> 1",
+                "print(1) -> 40", "append(47, 19)", "type('[1-8]=0:2,1:3,3:4~2*4') -> 40", "addRule() -> 2",
+                "print(2) -> 40", "append(47, 16)", "type('[0-9]=0:1,1:1,3:1~2*1') -> 37", "addRule() -> 3",
+                "print(3) -> 24");
     }
 
     /** "NONE if there is no such rule": the text before stays then. */

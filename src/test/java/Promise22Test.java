@@ -49,6 +49,7 @@ public final class Promise22Test {
     }
 
     private static void nothingChanges() {
-        Situations.changesNothing(Situations.USED, "printed(0)", "printed(8)", "printed(9) -> -1", "printed(-1) -> -1");
+        Situations.changesNothing(Situations.USED, "printed(0)", "printed(8)", "printed(9) -> -1",
+                "printed(-1) -> -1");
     }
 }

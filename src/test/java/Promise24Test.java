@@ -5,7 +5,12 @@ public final class Promise24Test {
         nothingMarked();
         nothingRecorded();
         ticksInBetween();
-        startsFromTheCopy();
+        creditsOfTheCopy();
+        attemptsOfTheCopy();
+        tokensOfTheCopy();
+        spillOfTheCopy();
+        rememberedInTheCopy();
+        ejectionsOfTheCopy();
         copyIsKept();
         withoutShadows();
         withoutFurtherAttempts();
@@ -33,13 +38,15 @@ public final class Promise24Test {
         for (Steps situation : new Steps[] {Situations.USED, Situations.FULL}) {
             situation.taken().does("play(0) -> 0");
             Check.holds("play(4) is answered", situation.taken().call("play", 4) >= 0);
-            Situations.changesNothing(situation, "play(-1) -> -2", "play(5) -> -2", "play(min) -> -2", "play(max) -> -2");
+            Situations.changesNothing(situation, "play(-1) -> -2", "play(5) -> -2", "play(min) -> -2",
+                    "play(max) -> -2");
         }
     }
 
     /** "NONE if nothing is marked", which is listed behind BAD_ARGUMENT. */
     private static void nothingMarked() {
-        Situations.changesNothing(Situations.NEW, "play(0) -> -1", "play(4) -> -1", "play(-1) -> -2", "play(5) -> -2");
+        Situations.changesNothing(Situations.NEW, "play(0) -> -1", "play(4) -> -1", "play(-1) -> -2",
+                "play(5) -> -2");
         Steps unmarked = Situations.USED.then("setZoneLimit(99)");
         Situations.changesNothing(unmarked, "play(0) -> -1", "play(4) -> -1", "play(-1) -> -2", "play(5) -> -2");
     }
@@ -56,8 +63,8 @@ public final class Promise24Test {
     /** "with the ticks in between": each of them where it was. */
     private static void ticksInBetween() {
         Router x = new Router().does("addBackend(0, 0, 1)", "setPattern(0, 190)", "configure(0, 0, 1, 2, 100, 0)",
-                "rule('/=0')", "mark()", "ask('/', 0, 0) * 2 -> -6 -5", "tick(1)", "ask('/', 0, 0) -> -5", "tick(1)",
-                "ask('/', 0, 0) * 6 -> 0 0 0 0 0 -6", "ask('/', 0, 0) -> -5");
+                "rule('/=0')", "mark()", "ask('/', 0, 0) * 2 -> -6 -5", "tick(1)", "ask('/', 0, 0) -> -5",
+                "tick(1)", "ask('/', 0, 0) * 6 -> 0 0 0 0 0 -6", "ask('/', 0, 0) -> -5");
         plays(x, 0, 0, 5);
         plays(x, 1, 0, 5);
         plays(x, 3, 0, 5);
@@ -66,51 +73,68 @@ public final class Promise24Test {
         plays(x, 2, 4, 7);
     }
 
-    /**
-     * "starting from the copy": the credits, the attempts, the failure runs, the ejections, the
-     * tokens, the spill and what is remembered are those of the mark.
-     */
-    private static void startsFromTheCopy() {
-        Steps targets = Steps.of("addBackend(0, 0, 1)", "addBackend(1, 0, 1)", "rule('/=0:2,1')", "ask('/', 0, 0) -> 0");
-        fromTheMark(targets, "ask('/', 0, 0) * 4 -> 1 0 0 1", 4);
-        Steps backends = Steps.of("addBackend(0, 0, 2)", "addBackend(0, 0, 1)", "rule('/=0')", "ask('/', 0, 0) -> 0");
-        fromTheMark(backends, "ask('/', 0, 0) * 4 -> 1 0 0 1", 4);
-        Steps attempts = Steps.of("addBackend(0, 0, 1)", "setPattern(0, 148)", "rule('/=0')", "configure(0, 0, 9, 1, 0, 0)",
-                "ask('/', 0, 0) * 2 -> -6 -6");
-        fromTheMark(attempts, "ask('/', 0, 0) * 6 -> 0 -6 0 -6 -6 0", 3);
-        Steps used = Steps.of("addBackend(0, 0, 1)", "addBackend(0, 0, 2)", "rule('/=0')", "configure(0, 1, 9, 1, 0, 0)",
+    /** "starting from the copy": the credits are those of the mark. */
+    private static void creditsOfTheCopy() {
+        Steps targets = Steps.of("addBackend(0, 0, 1)", "addBackend(1, 0, 1)", "rule('/=0:2,1')",
                 "ask('/', 0, 0) -> 0");
+        fromTheMark(targets, "ask('/', 0, 0) * 4 -> 1 0 0 1", 4);
+        Steps backends = Steps.of("addBackend(0, 0, 2)", "addBackend(0, 0, 1)", "rule('/=0')",
+                "ask('/', 0, 0) -> 0");
+        fromTheMark(backends, "ask('/', 0, 0) * 4 -> 1 0 0 1", 4);
+    }
+
+    private static void attemptsOfTheCopy() {
+        Steps attempts = Steps.of("addBackend(0, 0, 1)", "setPattern(0, 148)", "rule('/=0')",
+                "configure(0, 0, 9, 1, 0, 0)", "ask('/', 0, 0) * 2 -> -6 -6");
+        fromTheMark(attempts, "ask('/', 0, 0) * 6 -> 0 -6 0 -6 -6 0", 3);
+        Steps used = Steps.of("addBackend(0, 0, 1)", "addBackend(0, 0, 2)", "rule('/=0')",
+                "configure(0, 1, 9, 1, 0, 0)", "ask('/', 0, 0) -> 0");
         fromTheMark(used, "ask('/', 0, 0) * 4 -> 1 1 0 1", 4);
-        Steps runs = Steps.of("addBackend(0, 0, 1)", "setPattern(0, 0)", "rule('/=0')", "configure(0, 0, 3, 9, 100, 0)",
-                "ask('/', 0, 0) * 2 -> -6 -6");
-        fromTheMark(runs, "ask('/', 0, 0) * 2 -> -6 -5", 0);
-        Steps tokens = Steps.of("addBackend(0, 0, 1) * 2", "setPattern(0, 0)", "rule('/=0*2')", "configure(0, 1, 9, 9, 0, 0)",
-                "ask('/', 0, 0) -> 1", "setPattern(1, 254)");
+    }
+
+    private static void tokensOfTheCopy() {
+        Steps tokens = Steps.of("addBackend(0, 0, 1) * 2", "setPattern(0, 0)", "rule('/=0*2')",
+                "configure(0, 1, 9, 9, 0, 0)", "ask('/', 0, 0) -> 1", "setPattern(1, 254)");
         fromTheMark(tokens, "ask('/', 0, 0) * 5 -> 1 1 -6 1 -6", 3);
-        Steps sticky = Steps.of("addBackend(0, 0, 1) * 2", "rule('/=0')", "configure(0, 2, 9, 9, 0, 0)", "ask('/', 3, 0) -> 0",
-                "setWeight(0, 0)", "ask('/', 4, 0) -> 1", "setWeight(0, 1)");
+    }
+
+    private static void rememberedInTheCopy() {
+        Steps sticky = Steps.of("addBackend(0, 0, 1) * 2", "rule('/=0')", "configure(0, 2, 9, 9, 0, 0)",
+                "ask('/', 3, 0) -> 0", "setWeight(0, 0)", "ask('/', 4, 0) -> 1", "setWeight(0, 1)");
         fromTheMark(sticky, "ask('/', 3, 0) -> 0", 1);
         fromTheMark(sticky, "ask('/', 4, 0) -> 1", 1);
         for (int header = 0; header < 10; header++) {
             String ask = "ask('/', " + header + ", ";
-            Router x = new Router().does("addBackend(0, 0, 1)", "addBackend(0, 1, 1)", "rule('/=0')", "configure(0, 2, 9, 1, 0, 0)",
-                    ask + "0) -> 0", "mark()", ask + "2) -> 0", ask + "1) -> 1", ask + "2) -> 1");
+            Router x = new Router().does("addBackend(0, 0, 1)", "addBackend(0, 1, 1)", "rule('/=0')",
+                    "configure(0, 2, 9, 1, 0, 0)", ask + "0) -> 0", "mark()", ask + "2) -> 0", ask + "1) -> 1",
+                    ask + "2) -> 1");
             plays(x, 0, 0, 3);
         }
+    }
+
+    private static void spillOfTheCopy() {
         for (int zone = 0; zone < 3; zone++) {
-            Steps spill = Steps.of("addBackend(0, " + zone + ", 1) * 2", "addBackend(0, " + (zone + 1) % 3 + ", 1)", "rule('/=0')",
-                    "configure(0, 1, 1, 20, 100, 0)", "setPattern(0, 0)", "setZoneLimit(100)",
-                    "ask('/', 0, " + zone + ") * 2 -> -6 2", "service(0, " + (10 + zone) + ") -> 50");
+            Steps spill = Steps.of("addBackend(0, " + zone + ", 1) * 2",
+                    "addBackend(0, " + (zone + 1) % 3 + ", 1)", "rule('/=0')", "configure(0, 1, 1, 20, 100, 0)",
+                    "setPattern(0, 0)", "setZoneLimit(100)", "ask('/', 0, " + zone + ") * 2 -> -6 2",
+                    "service(0, " + (10 + zone) + ") -> 50");
             fromTheMark(spill, "ask('/', 0, " + zone + ") * 3 -> 1 2 1", 3);
         }
-        Steps ejected = Steps.of("addBackend(0, 0, 1)", "setPattern(0, 2)", "rule('/=0')", "configure(0, 1, 1, 3, 100, 0)",
-                "ask('/', 0, 0) -> -6", "tick(1)", "backend(0, 9) -> 2");
+    }
+
+    /** The failure runs, the numbers of ejections and the ticks that are left are those of the mark. */
+    private static void ejectionsOfTheCopy() {
+        Steps runs = Steps.of("addBackend(0, 0, 1)", "setPattern(0, 0)", "rule('/=0')",
+                "configure(0, 0, 3, 9, 100, 0)", "ask('/', 0, 0) * 2 -> -6 -6");
+        fromTheMark(runs, "ask('/', 0, 0) * 2 -> -6 -5", 0);
+        Steps ejected = Steps.of("addBackend(0, 0, 1)", "setPattern(0, 2)", "rule('/=0')",
+                "configure(0, 1, 1, 3, 100, 0)", "ask('/', 0, 0) -> -6", "tick(1)", "backend(0, 9) -> 2");
         fromTheMark(ejected, "ask('/', 0, 0) -> -5", 0);
-        Steps ejections = Steps.of("addBackend(0, 0, 1)", "setPattern(0, 0)", "rule('/=0')", "configure(0, 1, 1, 1, 100, 0)",
-                "ask('/', 0, 0) -> -6", "tick(1)");
-        Router y = ejections.taken().does("mark()", "ask('/', 0, 0) -> -6", "tick(1)", "ask('/', 0, 0) -> -5", "tick(1)",
-                "ask('/', 0, 0) -> -6");
-        plays(y, 0, 0, 0);
+        Steps ejections = Steps.of("addBackend(0, 0, 1)", "setPattern(0, 0)", "rule('/=0')",
+                "configure(0, 1, 1, 1, 100, 0)", "ask('/', 0, 0) -> -6", "tick(1)");
+        Router x = ejections.taken().does("mark()", "ask('/', 0, 0) -> -6", "tick(1)", "ask('/', 0, 0) -> -5",
+                "tick(1)", "ask('/', 0, 0) -> -6");
+        plays(x, 0, 0, 0);
     }
 
     private static void fromTheMark(Steps before, String requests, int answered) {
@@ -121,8 +145,9 @@ public final class Promise24Test {
 
     /** The copy is that of the mark, whatever was saved, foreseen, played or asked since. */
     private static void copyIsKept() {
-        Router x = new Router().does("addBackend(0, 0, 1)", "setPattern(0, 85)", "configure(0, 0, 9, 1, 0, 0)", "rule('/=0')",
-                "mark()", "ask('/', 0, 0) * 3 -> 0 -6 0", "save()", "foreseen('/', 0, 0) -> -6", "play(3) -> 0");
+        Router x = new Router().does("addBackend(0, 0, 1)", "setPattern(0, 85)", "configure(0, 0, 9, 1, 0, 0)",
+                "rule('/=0')", "mark()", "ask('/', 0, 0) * 3 -> 0 -6 0", "save()", "foreseen('/', 0, 0) -> -6",
+                "play(3) -> 0");
         plays(x, 0, 0, 2);
         x.does("ask('/', 0, 0) * 2 -> -6 0");
         plays(x, 0, 0, 3);
@@ -138,21 +163,22 @@ public final class Promise24Test {
 
     /** "1 without further attempts" */
     private static void withoutFurtherAttempts() {
-        Router x = new Router().does("addBackend(0, 0, 1) * 2", "setPattern(0, 0)", "configure(0, 0, 9, 1, 0, 100)",
-                "rule('/=0*2')", "mark()", "ask('/', 0, 0) * 4 -> 1 1 1 1");
+        Router x = new Router().does("addBackend(0, 0, 1) * 2", "setPattern(0, 0)",
+                "configure(0, 0, 9, 1, 0, 100)", "rule('/=0*2')", "mark()", "ask('/', 0, 0) * 4 -> 1 1 1 1");
         plays(x, 0, 0, 4);
         // 0 and 1 by turns.
         plays(x, 1, 2, 2);
-        x = new Router().does("addBackend(0, 0, 1) * 4", "setPattern(0, 0)", "setPattern(1, 0)", "setPattern(2, 0)",
-                "configure(0, 1, 9, 1, 0, 100)", "rule('/=0*4')", "mark()", "ask('/', 0, 0) -> 3");
+        x = new Router().does("addBackend(0, 0, 1) * 4", "setPattern(0, 0)", "setPattern(1, 0)",
+                "setPattern(2, 0)", "configure(0, 1, 9, 1, 0, 100)", "rule('/=0*4')", "mark()",
+                "ask('/', 0, 0) -> 3");
         plays(x, 0, 0, 1);
         plays(x, 1, 1, 0);
     }
 
     /** "2 without ejection" */
     private static void withoutEjection() {
-        Router x = new Router().does("addBackend(0, 0, 1) * 2", "setPattern(0, 0)", "configure(0, 0, 1, 9, 100, 0)",
-                "rule('/=0')", "mark()", "ask('/', 0, 0) * 4 -> -6 1 1 1");
+        Router x = new Router().does("addBackend(0, 0, 1) * 2", "setPattern(0, 0)",
+                "configure(0, 0, 1, 9, 100, 0)", "rule('/=0')", "mark()", "ask('/', 0, 0) * 4 -> -6 1 1 1");
         plays(x, 0, 0, 3);
         // 0 and 1 by turns.
         plays(x, 2, 1, 2);
@@ -160,8 +186,9 @@ public final class Promise24Test {
 
     /** What was ejected before the mark is so in the copy, for as many ticks as are left. */
     private static void ejectedBefore() {
-        Router x = new Router().does("addBackend(0, 0, 1) * 2", "setPattern(0, 0)", "configure(0, 0, 1, 9, 100, 0)",
-                "rule('/=0')", "ask('/', 0, 0) * 2 -> -6 1", "mark()", "ask('/', 0, 0) * 2 -> 1 1");
+        Router x = new Router().does("addBackend(0, 0, 1) * 2", "setPattern(0, 0)",
+                "configure(0, 0, 1, 9, 100, 0)", "rule('/=0')", "ask('/', 0, 0) * 2 -> -6 1", "mark()",
+                "ask('/', 0, 0) * 2 -> 1 1");
         plays(x, 2, 0, 2);
         x.does("tick(9)", "ask('/', 0, 0) * 4 -> 1 -6 1 1");
         plays(x, 0, 0, 5);
@@ -185,8 +212,8 @@ public final class Promise24Test {
             all.does("addBackend(" + service + ", 0, 1) * 2", "configure(" + service + ", 2, 9, 1, 0, 0)",
                     "rule('/" + (char) ('a' + service) + "=" + service + "')");
         }
-        all.does("mark()", "ask('/a', 0, 0) * 2 -> 0 0", "ask('/b', 0, 0) * 2 -> 2 2", "ask('/c', 0, 0) * 2 -> 4 4",
-                "ask('/d', 0, 0) * 2 -> 6 6");
+        all.does("mark()", "ask('/a', 0, 0) * 2 -> 0 0", "ask('/b', 0, 0) * 2 -> 2 2",
+                "ask('/c', 0, 0) * 2 -> 4 4", "ask('/d', 0, 0) * 2 -> 6 6");
         plays(all, 3, 4, 8);
     }
 
@@ -202,10 +229,10 @@ public final class Promise24Test {
 
     /** The near weight of 1 is enough for 55 of the zone by a limit of 1, but not by one of 2. */
     private static void zoneLimitOfExactlyOne() {
-        Steps one = Steps.of("addBackend(0, 0, 1)", "addBackend(0, 1, 1)", "configure(0, 1, 1, 20, 100, 0)", "rule('/=0')",
-                "addBackend(0, 0, 9) * 6", "setPattern(2, 0)", "setPattern(3, 0)", "setPattern(4, 0)", "setPattern(5, 0)",
-                "setPattern(6, 0)", "setPattern(7, 0)", "setZoneLimit(1)",
-                "ask('/', 0, 0) * 8 -> 0 -6 -6 -6 -6 -6 -6 0");
+        Steps one = Steps.of("addBackend(0, 0, 1)", "addBackend(0, 1, 1)", "configure(0, 1, 1, 20, 100, 0)",
+                "rule('/=0')", "addBackend(0, 0, 9) * 6", "setPattern(2, 0)", "setPattern(3, 0)",
+                "setPattern(4, 0)", "setPattern(5, 0)", "setPattern(6, 0)", "setPattern(7, 0)",
+                "setZoneLimit(1)", "ask('/', 0, 0) * 8 -> 0 -6 -6 -6 -6 -6 -6 0");
         Router x = one.taken().does("setZoneLimit(2)", "mark()", "ask('/', 0, 0) * 2 -> 1 0");
         plays(x, 0, 0, 2);
         plays(x, 4, 1, 2);
@@ -223,25 +250,25 @@ public final class Promise24Test {
     /** Each request with the path, the header value and the zone that it had. */
     private static void headersAndZones() {
         Router x = new Router().does("addBackend(0, 0, 1)", "addBackend(0, 1, 1)", "addBackend(0, 2, 1)",
-                "addBackend(1, 0, 1) * 2", "configure(1, 2, 9, 1, 0, 0)", "rule('/a=0')", "rule('/b[0-6]=1')", "rule('/b=0')",
-                "mark()", "ask('/a', 0, 2) -> 2", "ask('/a', 0, 1) -> 1", "ask('/a', 0, 0) -> 0", "ask('/b', 5, 0) -> 3",
-                "ask('/b', 6, 0) -> 4", "ask('/b', 5, 0) -> 3", "ask('/b', 6, 0) * 2 -> 4 4", "ask('/b', 7, 1) -> 1",
-                "ask('/', 9, 2) -> -4");
+                "addBackend(1, 0, 1) * 2", "configure(1, 2, 9, 1, 0, 0)", "rule('/a=0')", "rule('/b[0-6]=1')",
+                "rule('/b=0')", "mark()", "ask('/a', 0, 2) -> 2", "ask('/a', 0, 1) -> 1",
+                "ask('/a', 0, 0) -> 0", "ask('/b', 5, 0) -> 3", "ask('/b', 6, 0) -> 4", "ask('/b', 5, 0) -> 3",
+                "ask('/b', 6, 0) * 2 -> 4 4", "ask('/b', 7, 1) -> 1", "ask('/', 9, 2) -> -4");
         plays(x, 0, 0, 9);
         plays(x, 3, 1, 9);
     }
 
     private static void longestRecording() {
-        Router x = new Router().does("addBackend(0, 0, 1) * 2", "configure(0, 2, 9, 1, 0, 0)", "rule('/=0')", "mark()",
-                "ask('/', 0, 0) * 60", "count(11) -> 60");
+        Router x = new Router().does("addBackend(0, 0, 1) * 2", "configure(0, 2, 9, 1, 0, 0)", "rule('/=0')",
+                "mark()", "ask('/', 0, 0) * 60", "count(11) -> 60");
         plays(x, 0, 0, 60);
         plays(x, 3, 30, 60);
     }
 
     /** What was recorded and played before an earlier mark does not count any more. */
     private static void shorterRecording() {
-        Router x = new Router().does("addBackend(0, 0, 1) * 2", "setPattern(0, 0)", "configure(0, 1, 9, 1, 0, 100)",
-                "rule('/=0*2')", "mark()", "ask('/', 0, 0) * 3 -> 1 1 1");
+        Router x = new Router().does("addBackend(0, 0, 1) * 2", "setPattern(0, 0)",
+                "configure(0, 1, 9, 1, 0, 100)", "rule('/=0*2')", "mark()", "ask('/', 0, 0) * 3 -> 1 1 1");
         plays(x, 1, 2, 1);
         x.does("mark()", "tick(2)");
         plays(x, 0, 0, 0);

@@ -17,21 +17,24 @@ public final class Promise26Test {
 
     /** "replacing an earlier snapshot" */
     private static void replacing() {
-        new Router().does("addBackend(0, 0, 1)", "save() -> 1", "setWeight(0, 7)", "addBackend(0, 0, 1)", "save() -> 2",
-                "setWeight(0, 8)", "restore() -> 2", "backend(0, 2) -> 7", "save() -> 2", "restore() -> 2");
-        Check.same("a later snapshot", Picture.ofState(Situations.USED.then("save()", "removeRule(0)", "restore()")),
+        new Router().does("addBackend(0, 0, 1)", "save() -> 1", "setWeight(0, 7)", "addBackend(0, 0, 1)",
+                "save() -> 2", "setWeight(0, 8)", "restore() -> 2", "backend(0, 2) -> 7", "save() -> 2",
+                "restore() -> 2");
+        Check.same("a later snapshot", Picture.ofState(Situations.USED.then("save()", "removeRule(0)",
+                "restore()")),
                 Picture.ofState(Situations.USED));
         // One with fewer backends and rules after one with more.
-        new Router().does("addBackend(0, 0, 1)", "rule('/=0')", "save() -> 1", "addBackend(0, 0, 1)", "rule('/a=0')",
-                "save() -> 2", "removeRule(0)", "removeRule(0)", "save() -> 2", "rule('/b=0')", "restore() -> 2",
-                "count(1) -> 0");
+        new Router().does("addBackend(0, 0, 1)", "rule('/=0')", "save() -> 1", "addBackend(0, 0, 1)",
+                "rule('/a=0')", "save() -> 2", "removeRule(0)", "removeRule(0)", "save() -> 2", "rule('/b=0')",
+                "restore() -> 2", "count(1) -> 0");
     }
 
     /** "everything but the text, the trace and the mark" */
     private static void notTheRest() {
-        new Router().does("addBackend(0, 0, 1)", "rule('/=0')", "mark()", "ask('/', 0, 0) -> 0", "type('/a')", "save()",
-                "count(13) -> 2", "count(12) -> 1", "count(11) -> 1", "type('b') -> 3", "restore() -> 1",
-                "count(13) -> 3", "count(12) -> 0", "count(11) -> 0", "play(0) -> -1", "request(0, 0) -> 0");
+        new Router().does("addBackend(0, 0, 1)", "rule('/=0')", "mark()", "ask('/', 0, 0) -> 0", "type('/a')",
+                "save()", "count(13) -> 2", "count(12) -> 1", "count(11) -> 1", "type('b') -> 3",
+                "restore() -> 1", "count(13) -> 3", "count(12) -> 0", "count(11) -> 0", "play(0) -> -1",
+                "request(0, 0) -> 0");
     }
 
     /** "any other call that changes something but mark, save and append, ends the marking" */

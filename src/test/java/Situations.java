@@ -30,10 +30,11 @@ final class Situations {
 
     /** Forty requests and ticks are recorded, and each condition would have led elsewhere. */
     static final Steps MARKED = x -> {
-        x.does("addBackend(0, 0, 1) * 2", "addBackend(0, 1, 1) * 2", "addBackend(0, 2, 1) * 2", "addBackend(1, 0, 1)",
-                "addBackend(1, 1, 2) -> 7", "setPattern(0, 102)", "setPattern(2, 170)", "setPattern(4, 51)",
-                "setPattern(6, 6)", "setPattern(7, 0)", "configure(0, 2, 1, 3, 67, 30)", "configure(1, 1, 1, 4, 100, 0)",
-                "setZoneLimit(100)", "rule('/b=1')", "rule('/=0:2,1~0*3') -> 1", "mark() -> 8");
+        x.does("addBackend(0, 0, 1) * 2", "addBackend(0, 1, 1) * 2", "addBackend(0, 2, 1) * 2",
+                "addBackend(1, 0, 1)", "addBackend(1, 1, 2) -> 7", "setPattern(0, 102)", "setPattern(2, 170)",
+                "setPattern(4, 51)", "setPattern(6, 6)", "setPattern(7, 0)", "configure(0, 2, 1, 3, 67, 30)",
+                "configure(1, 1, 1, 4, 100, 0)", "setZoneLimit(100)", "rule('/b=1')",
+                "rule('/=0:2,1~0*3') -> 1", "mark() -> 8");
         for (int i = 0; i < 34; i++) {
             x.does((i % 5 == 4 ? "ask('/b', " : "ask('/', ") + i * 7 % 10 + ", " + i / 2 % 3 + ")");
             if (i % 6 == 5) {
