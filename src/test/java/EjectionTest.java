@@ -42,7 +42,7 @@ public final class EjectionTest {
             Router x = failing(1, limit, 4, 100).taken();
             for (int run = 1; run < limit; run++) {
                 x.does("ask('/', 0, 0) -> -6", "backend(0, 7) -> " + run, "backend(0, 9) -> 0",
-                "trace() -> 0,0,1,0");
+                        "trace() -> 0,0,1,0");
             }
             x.does("ask('/', 0, 0) -> -6", "backend(0, 7) -> 0", "backend(0, 9) -> 4", "trace() -> 0,0,1,1",
                     "backend(0, 8) -> 1", "ask('/', 0, 0) -> -5");

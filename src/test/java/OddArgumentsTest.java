@@ -4,11 +4,9 @@ public final class OddArgumentsTest {
         4, 5, 6, 7, 8, 9, 10, 11, 12, 13, 14, 19, 20, 21, 39, 40, 41, 49, 50, 51, 59, 60, 61, 99, 100, 101, 127, 128,
         255, 256, 1 << 16, 1 << 30, Integer.MAX_VALUE};
     private static final String[] ONE = {"match", "setZoneLimit", "removeRule", "tick", "count", "print",
-            "printed", "play",
-        "answeredIf"};
+        "printed", "play", "answeredIf"};
     private static final String[] TWO = {"setWeight", "setPattern", "append", "moveRule", "request", "foresee",
-            "backend",
-        "service", "remembered", "trace"};
+        "backend", "service", "remembered", "trace"};
     private static final String[] THREE = {"addBackend", "target"};
 
     private final Steps situation;

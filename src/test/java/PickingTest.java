@@ -190,6 +190,8 @@ public final class PickingTest {
         // Failed attempts count, shadow attempts do not.
         new Router().does("configure(0, 1, 9, 1, 0, 100)", "addBackend(0, 0, 1) * 2", "setPattern(0, 0)",
                 "rule('/=0~0')", "ask('/', 0, 0) * 4 -> -6 1 -6 1");
+        new Router().does("configure(0, 1, 9, 1, 0, 100)", "addBackend(0, 0, 1) * 2", "setPattern(1, 0)",
+                "rule('/=0~0')", "ask('/', 0, 0) * 6 -> 0 -6 0 -6 0 -6");
     }
 
     private static void leastUsedOfTheNearOnes() {

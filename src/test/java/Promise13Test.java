@@ -8,6 +8,7 @@ public final class Promise13Test {
         noPath();
         firstError();
         theAnswer();
+        headerAndZoneOfTheAnswer();
         nothingChanges();
         Check.end();
     }
@@ -57,6 +58,16 @@ public final class Promise13Test {
         }
         Check.holds("some fail and some do not", seen[0] > 5 && seen[1] > 5);
         x.does("count(11) -> 54", "play(0) -> 0");
+    }
+
+    /** The header value has a say in the rule and in what is remembered, the zone in which ones are near. */
+    private static void headerAndZoneOfTheAnswer() {
+        new Router().does("addBackend(0, 0, 1)", "addBackend(0, 1, 1)", "addBackend(1, 0, 1)", "addBackend(1, 2, 1)",
+                "rule('/[0-2]=0')", "rule('/[3-9]=1')", "foreseen('/', 2, 0) -> 0", "foreseen('/', 2, 1) -> 1",
+                "foreseen('/', 3, 0) -> 2", "foreseen('/', 3, 2) -> 3", "foreseen('/', 0, 1) -> 1",
+                "foreseen('/', 9, 2) -> 3", "configure(1, 2, 9, 1, 0, 0)", "ask('/', 4, 1) -> 2",
+                "ask('/', 5, 1) -> 3", "foreseen('/', 4, 1) -> 2", "foreseen('/', 5, 1) -> 3",
+                "foreseen('/', 5, 0) -> 2", "foreseen('/', 5, 1) -> 3", "foreseen('/', 4, 2) -> 3");
     }
 
     /** "Nothing changes, and the text stays." */

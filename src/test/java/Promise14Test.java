@@ -3,8 +3,8 @@ public final class Promise14Test {
     /** Backend 0 is ejected for four ticks, and backend 1 for two. */
     private static final Steps EJECTED = Steps.of("addBackend(0, 0, 1)", "addBackend(1, 0, 1)",
             "addBackend(2, 0, 1)", "setPattern(0, 0)", "setPattern(1, 0)", "configure(0, 0, 1, 4, 100, 0)",
-                    "configure(1, 0, 1, 2, 100, 0)",
-            "rule('/=0,1')", "ask('/', 0, 0) * 3 -> -6 -6 -5", "backend(0, 9) -> 4", "backend(1, 9) -> 2");
+            "configure(1, 0, 1, 2, 100, 0)", "rule('/=0,1')",
+            "ask('/', 0, 0) * 3 -> -6 -6 -5", "backend(0, 9) -> 4", "backend(1, 9) -> 2");
 
     public static void main(String[] args) {
         time();

@@ -78,12 +78,10 @@ public final class Promise23Test {
 
     /** "any other call that changes something but mark, save and append, ends the marking" */
     private static void whatEndsIt() {
-        for (String call : new String[] {"addBackend(3, 0, 0) -> 2", "setWeight(0, 1) -> 1",
-                "setWeight(0, 2) -> 1",
+        for (String call : new String[] {"addBackend(3, 0, 0) -> 2", "setWeight(0, 1) -> 1", "setWeight(0, 2) -> 1",
             "setPattern(0, 255) -> 255", "setPattern(0, 1) -> 255", "configure(0, 0, 3, 5, 50, 20) -> 0",
             "configure(0, 1, 3, 5, 50, 20) -> 0", "setZoneLimit(70) -> 70", "setZoneLimit(71) -> 70",
-                    "rule('/=0') -> 2",
-            "removeRule(1) -> 1", "moveRule(1, 1) -> 0", "moveRule(1, 0) -> 1", "restore() -> 2"}) {
+            "rule('/=0') -> 2", "removeRule(1) -> 1", "moveRule(1, 1) -> 0", "moveRule(1, 0) -> 1", "restore() -> 2"}) {
             Router x = MARKED.taken().does(call, "count(11) -> 0");
             for (int condition = 0; condition < 5; condition++) {
                 x.does("play(" + condition + ") -> -1", "answeredIf(" + condition + ") -> -1");
@@ -101,8 +99,7 @@ public final class Promise23Test {
     private static void whatDoesNot() {
         for (String call : new String[] {"append(47, 1) -> 1", "save() -> 2", "print(0) -> 4", "match(0) -> -7",
             "matched('/a', 0) -> 0", "foreseen('/a', 0, 0) -> 0", "play(1) -> 0", "answeredIf(2) -> 1",
-                    "backend(0)",
-            "service(0)", "kept(0)", "targets(0)", "trace()", "counts()", "printed(0)"}) {
+            "backend(0)", "service(0)", "kept(0)", "targets(0)", "trace()", "counts()", "printed(0)"}) {
             MARKED.taken().does(call, "count(11) -> 1", "play(0) -> 0", "answeredIf(0) -> 1");
         }
     }
@@ -110,8 +107,7 @@ public final class Promise23Test {
     /** "a call that returns an error code, or BAD_TEXT, does not"; nor does NONE, which changes nothing. */
     private static void errorsDoNot() {
         for (String call : new String[] {"addBackend(4, 0, 0) -> -2", "setWeight(2, 0) -> -1",
-                "setWeight(0, 10) -> -2",
-            "setPattern(2, 0) -> -1", "setPattern(0, 256) -> -2", "configure(0, 3, 3, 5, 50, 20) -> -2",
+            "setWeight(0, 10) -> -2", "setPattern(2, 0) -> -1", "setPattern(0, 256) -> -2", "configure(0, 3, 3, 5, 50, 20) -> -2",
             "setZoneLimit(0) -> -2", "append(128, 1) -> -2", "rule('/=') -> -102", "addRule() -> -100",
             "removeRule(2) -> -1", "moveRule(2, 0) -> -1", "moveRule(0, 2) -> -2", "match(10) -> -2",
             "ask('/a', 10, 0) -> -2", "ask('b', 0, 0) -> -7", "foreseen('b', 0, 0) -> -7", "tick(0) -> -2",

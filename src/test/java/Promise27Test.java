@@ -4,7 +4,7 @@ public final class Promise27Test {
         "ask('/zz', 9, 0)", "tick(2)", "setWeight(0, 5)", "setPattern(2, 99)", "configure(0, 1, 9, 1, 1, 1)",
         "configure(3, 1, 9, 1, 1, 1)", "setZoneLimit(9)", "addBackend(3, 2, 1)", "moveRule(0, 1)", "removeRule(0)",
         "rule('/q=3')", "rule('/y=2')", "setWeight(5, 0)", "ask('/y', 0, 0)", "rule('/q=3,0,1~1*4')",
-                "ask('/q', 0, 0) * 3", "mark()", "ask('/q', 0, 0) * 2", "tick(1)", "print(0)"};
+        "ask('/q', 0, 0) * 3", "mark()", "ask('/q', 0, 0) * 2", "tick(1)", "print(0)"};
 
     public static void main(String[] args) {
         numberOfBackends();

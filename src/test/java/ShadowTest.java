@@ -48,7 +48,7 @@ public final class ShadowTest {
                     "rule('/=0~1')");
             for (int attempt = 0; attempt < 18; attempt++) {
                 x.does("ask('/', 0, 0) -> -5",
-                "backend(0, 11) -> " + (attempt < bit ? 0 : (attempt - bit) / 8 + 1));
+                        "backend(0, 11) -> " + (attempt < bit ? 0 : (attempt - bit) / 8 + 1));
             }
             x.does("backend(0, 10) -> 18");
         }
